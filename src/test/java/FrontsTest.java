@@ -24,6 +24,8 @@ public final class FrontsTest {
         costs();
         holes();
         fewerWishes();
+        fourWishes();
+        roundabout();
         Check.finish("FrontsTest");
     }
 
@@ -429,6 +431,15 @@ public final class FrontsTest {
         Check.due("five", x.standIns(5), NONE);
         Check.due("-1", x.standIns(-1), NONE);
         Check.due("kept stays", x.kept(3), 3);
+        UnbeatenHouse v = Check.of(stairs(6));
+        v.front(0, 0, 0);
+        Check.due("five of six", v.standIns(5), NONE);
+        Check.due("four of six", v.standIns(4), 10);
+        Check.due("two of six", v.standIns(2), 10);
+        UnbeatenHouse w = Check.of("wish p less;wish q less;row ra 0 2;row rb 1 1;row rc 2 0;");
+        w.front(0, 0, 0);
+        Check.due("least of 1", w.standIns(1), 1);
+        Check.due("by rb", w.kept(0), 1);
         UnbeatenHouse y = Check.of("wish p less;wish q less;row ra 0 9;row rb 3 6;row rc 6 3;");
         Check.due("no front", y.standIns(1), NONE);
         y.front(0, 0, 0);
@@ -462,6 +473,15 @@ public final class FrontsTest {
         Check.due("wish -1", x.cost(0, -1, 0, true), NONE);
         Check.due("none such", x.cost(4, 0, 1, true), NONE);
         Check.due("k -1", x.cost(-1, 0, 1, false), NONE);
+        UnbeatenHouse z = Check.of("wish p less;wish q less;wish r less;row ra 5 5 5;row rb 4 6 5;row rc 5 9 1;"
+                + "row rd 4 5 9;");
+        z.front(0, 0, 0);
+        Check.due("by one", z.cost(0, 0, 1, true), 1);
+        Check.due("for one", z.cost(0, 0, 1, false), 1);
+        Check.due("like p, more q", z.cost(0, 2, 1, true), 1);
+        Check.due("for 4 of r", z.cost(0, 2, 1, false), 1);
+        Check.due("none has less q", z.cost(0, 1, 0, true), NONE);
+        Check.due("less p, like q, more r", z.cost(0, 0, 2, true), 4);
         UnbeatenHouse y = Check.of("wish p less;wish q more;row ra 9999 9999;row rb 0 0;");
         y.front(0, 0, 0);
         Check.due("lowest terms", y.cost(0, 0, 1, true), 1);
@@ -477,8 +497,49 @@ public final class FrontsTest {
         Check.due("of p: 0 3 3 10", x.hole(0), 7);
         Check.due("of q: -10 -5 -5 -1", x.hole(1), 5);
         Check.due("of r: like ones", x.hole(2), 0);
+        UnbeatenHouse y = Check.of("wish p less;wish q less;row ra 0 2;row rb 1 1;row rc 2 0;");
+        y.front(0, 0, 0);
+        Check.due("holes of 1", y.hole(0) + y.hole(1), 2);
         Check.due("no wish", x.hole(3), NONE);
         Check.due("wish -1", x.hole(-1), NONE);
+    }
+
+    private static void fourWishes() {
+        // By four wishes, so that the later ones order too: losses 1 1 -1 1, 1 1 0 0, 1 0 0 1, 0 1 0 1.
+        String wishes = "wish p less;wish q less;wish r more;wish s less;";
+        UnbeatenHouse x = Check.of(wishes + "knot ka;knot kb;tie ka kb 1 1 1 1;tie ka kb 1 1 0 0;tie ka kb 1 0 0 1;"
+                + "tie ka kb 0 1 0 1;tie ka kb 1 1 0 1;");
+        UnbeatenHouse y = Check.of(wishes + "thing ta 1 1 1 1;thing tb 1 1 0 0;thing tc 1 0 0 1;thing td 0 1 0 1;"
+                + "thing te 1 1 0 1;rule many=1;");
+        int[][] losses = {{0, 1, 0, 1}, {1, 0, 0, 1}, {1, 1, -1, 1}, {1, 1, 0, 0}};
+        int[] sets = {8, 4, 1, 2};
+        Check.due("four ways", x.front(1, 0, 1), 4);
+        Check.due("four sets", y.front(2, 0, 0), 4);
+        for (int k = 0; k < 4; k++) {
+            for (int wish = 0; wish < 4; wish++) {
+                Check.due("way " + k + " wish " + wish, x.loss(k, wish), losses[k][wish]);
+                Check.due("set " + k + " wish " + wish, y.loss(k, wish), losses[k][wish]);
+            }
+            Check.due("which set " + k, y.who(k), sets[k]);
+        }
+        Check.due("one each", x.corner(2), y.corner(2));
+        Check.due("none less by its own wish", y.weight(3, 3), 4);
+        Check.due("none more by the others", y.weight(3, 0), 0);
+    }
+
+    /** No knot twice, though more is better; and nothing is left of the sums of another front. */
+    private static void roundabout() {
+        UnbeatenHouse x = Check.of("wish p more;knot ka;knot kb;knot kc;knot kd;tie ka kb 1;tie kb kc 9;tie kc kb 9;"
+                + "tie kc ka 9;tie kb kd 1;tie kc kd 1;tie kd kb 99;thing ta 5;thing tb 7;rule many=2;");
+        Check.due("sets", x.front(2, 0, 0), 1);
+        Check.due("both things", x.loss(0, 0), -12);
+        Check.due("ways", x.front(1, 0, 3), 1);
+        Check.due("a b c d", x.loss(0, 0), -11);
+        Check.due("four knots", x.who(0), 4);
+        Check.due("to kc", x.front(1, 0, 2), 1);
+        Check.due("a b c", x.loss(0, 0), -10);
+        Check.due("sets again", x.front(2, 0, 0), 1);
+        Check.due("both things again", x.loss(0, 0), -12);
     }
 
     /** What a text with more wishes has left behind must not count in the next one. */

@@ -13,6 +13,8 @@ public final class PeopleTest {
         ahead();
         breaking();
         places();
+        leastOfGreatest();
+        firstRowNeverFirst();
         Check.finish("PeopleTest");
     }
 
@@ -171,6 +173,61 @@ public final class PeopleTest {
         Check.due("rule 2 breaks", z.breaks(2), 1 + 4);
         Check.due("rule 0 takes b", z.choose(0), 1);
         Check.due("rule 0 breaks", z.breaks(0), 0);
+    }
+
+    /** Rule 1 takes one that is first but once last; rule 2 one that is never last. */
+    private static void leastOfGreatest() {
+        UnbeatenHouse x = four();
+        x.person(0, 4, 3, 2, 1);
+        x.person(1, 4, 3, 2, 1);
+        x.person(2, 4, 3, 2, 1);
+        x.person(3, 1, 2, 3, 4);
+        // Orders: a b c d three times; d c b a. Together: a 3, b 5, c 7, d 9. Greatest: a 3, b 2, c 2, d 3.
+        Check.due("rule 0", x.choose(0), 0);
+        Check.due("rule 1", x.choose(1), 0);
+        Check.due("rule 2", x.choose(2), 1);
+        Check.due("rule 3", x.choose(3), 0);
+        // b is never first; of a and d rule 2 takes a: with places 0 and 1 each.
+        Check.due("rule 2 breaks", x.breaks(2), 1 + 4);
+        x.bar(2, 0, true);
+        // Orders: b c d three times; d c b.
+        Check.due("rule 2 without a", x.choose(2), 2);
+        Check.due("rule 1 without a", x.choose(1), 1);
+    }
+
+    /** Row 0 is chosen by rule 1 or 2 and is never first. */
+    private static void firstRowNeverFirst() {
+        UnbeatenHouse x = four();
+        x.person(0, 5, 9, 1, 0);
+        x.person(1, 5, 0, 9, 1);
+        x.person(2, 5, 1, 0, 9);
+        Check.due("rule 2 takes a", x.choose(2), 0);
+        // Without a: b c d, c d b, d b c: a ring, of which b is the least.
+        Check.due("rule 2 breaks", x.breaks(2), 4);
+        Check.due("rule 3 breaks", x.breaks(3), 4);
+        Check.due("rule 0 takes b", x.choose(0), 1);
+        Check.due("rule 0 breaks", x.breaks(0), 1);
+        // All others are ahead of it: with a fifth row it would be another matter.
+        UnbeatenHouse y = four();
+        y.person(0, 1, 9, 8, 7);
+        y.bar(0, 2, true);
+        y.bar(0, 3, true);
+        y.person(1, 9, 1, 1, 1);
+        y.person(2, 9, 1, 1, 1);
+        Check.due("rule 0 takes a", y.choose(0), 0);
+        y.person(3, 1, 9, 0, 0);
+        y.person(4, 1, 9, 0, 0);
+        Check.due("rule 0 takes b then", y.choose(0), 1);
+        y.person(3, 0, 0, 0, 0);
+        y.person(4, 0, 0, 0, 0);
+        Check.due("and a again", y.choose(0), 0);
+        Check.due("a second weight alone", y.person(5, 0, 1, 0, 0), true);
+        Check.due("its place", y.place(5, 1), 0);
+        Check.due("a third weight alone", y.person(5, 0, 0, 1, 0), true);
+        Check.due("like ones by number", y.place(5, 0), 0);
+        Check.due("it votes", y.place(5, 1), 1);
+        UnbeatenHouse z = Check.of("wish p less;row ra 1;");
+        Check.due("no second wish", z.person(0, 1, 1, 0, 0), false);
     }
 
     private static void places() {

@@ -61,6 +61,8 @@ public final class RowsTest {
         // ra beats rb and is beaten by rc: rb leads to rc, which is on the front.
         UnbeatenHouse y = Check.of("wish p less;row ra 5;row rb 9;row rc 1;");
         Check.due("rb leads past ra", y.leads(1), 2);
+        UnbeatenHouse z = Check.of("wish p more;row ra 5;row rb 4;");
+        Check.due("to the first row", z.leads(1), 0);
     }
 
     private static void changing() {
@@ -99,10 +101,18 @@ public final class RowsTest {
         x.change(4, 0, 7);
         Check.due("of a ? it was 0", x.price(4, 0, true), 0);
         Check.due("the other one stays", x.price(4, 1, true), 7);
+        x.change(4, 1, NONE);
+        x.change(4, 1, 3);
+        Check.due("the other one is gone", x.price(4, 1, true), 0);
+        Check.due("no other row's", x.price(1, 1, true), 2);
         x.change(2, 0, NONE);
         Check.due("a ? has none", x.price(2, 0, true), NONE);
         x.change(2, 0, 7);
         Check.due("and none comes again", x.price(2, 0, true), 0);
+        Check.text(x, ROWS.replace("~", " ").replace(" 2;", ";").replace("12 3", "12").replace("9 7", "9"));
+        Check.due("another text", x.has(1), 6);
+        Check.due("has no spread of the earlier one", x.price(1, 1, true), 0);
+        Check.due("nor another one", x.price(2, 0, true), 0);
     }
 
     private static void surely() {
@@ -159,5 +169,16 @@ public final class RowsTest {
         Check.due("39 fell", x.changed(false), (1L << 39) - 1);
         Check.due("it stays alone", x.rows(), 1L << 39);
         Check.due("all lead to it", x.leads(0), 39);
+        StringBuilder u = new StringBuilder("wish a less;wish b less;wish c more;wish d more;");
+        for (int i = 0; i < 40; i++) {
+            u.append("row ").append((char) ('a' + i / 26)).append((char) ('a' + i % 26)).append("z 1 1 1 ");
+            u.append(i).append(';');
+        }
+        UnbeatenHouse y = Check.of(u.toString());
+        Check.due("by the fourth wish", y.rows(), 1L << 39);
+        Check.due("one beats", y.beats(39, 38), 1);
+        Check.due("two change", y.change(5, 3, 39), 1);
+        Check.due("two are like", y.rows(), 1L << 39 | 1L << 5);
+        Check.due("the first leads", y.leads(38), 5);
     }
 }

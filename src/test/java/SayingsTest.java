@@ -16,6 +16,7 @@ public final class SayingsTest {
         quarrels();
         likeQuarrels();
         stops();
+        again();
         Check.finish("SayingsTest");
     }
 
@@ -157,6 +158,35 @@ public final class SayingsTest {
         y.rather(0, 2);
         // Grid 1 weighs one wish alone: (1,0,0): ra best, and like rb rc.
         Check.due("three together", y.quarrel(), 0b111);
+    }
+
+    /** What an earlier call has found must not count in the next one. */
+    private static void again() {
+        UnbeatenHouse x = Check.of("wish p less;wish q less;row ra 0 2;row rb 1 1;row rc 2 0;");
+        x.grid(1);
+        // By (0,1) rc 0, rb 1, ra 2: rb is but one behind, and not first.
+        Check.due("could", x.could(), 1 + 4);
+        Check.due("leaves", x.question(2), 1);
+        Check.due("A", x.question(0), 0);
+        Check.due("B", x.question(1), 1);
+        x.rather(0, 1);
+        Check.due("then could", x.could(), 1);
+        Check.due("then leaves", x.question(2), 1);
+        x.rather(1, 0);
+        Check.due("at odds", x.quarrel(), 3);
+        Check.due("nothing could", x.could(), 0);
+        Check.due("nothing is left", x.question(2), 0);
+        x.unsay();
+        Check.due("at odds no more", x.quarrel(), 0);
+        Check.due("leaves again", x.question(2), 1);
+        x.unsay();
+        x.rather(1, 0);
+        Check.due("the first one is another one", x.quarrel(), 0);
+        Check.due("the last weighing alone", x.could(), 4);
+        // By (0,1) the rows are one apart: a slack of 1 is not first.
+        Check.due("stop(0)", x.stop(0), 2);
+        Check.due("stop(1)", x.stop(1), 1);
+        Check.due("stop(2)", x.stop(2), 0);
     }
 
     private static void stops() {

@@ -21,6 +21,8 @@ public final class TextTest {
         tests();
         counts();
         letters();
+        oneBehindTheOther();
+        fullTapes();
         Check.finish("TextTest");
     }
 
@@ -164,6 +166,10 @@ public final class TextTest {
         Check.faulty("wish a less more;", 1, 12);
         Check.faulty("wish 5 less;", 1, 5);
         Check.faulty("wish a less;row b;", 1, 17);
+        Check.faulty("wish a less;row 5;", 1, 16);
+        Check.faulty("wish a less;thing 5;", 1, 18);
+        Check.faulty("wish a less;row ;", 1, 16);
+        Check.faulty("wish less;", 1, 5);
         Check.faulty("wish a less;row b 1 2;", 1, 20);
         Check.faulty("wish a less;row b ?~1;", 1, 19);
         Check.faulty("wish a less;row b 1~;", 1, 20);
@@ -315,6 +321,45 @@ public final class TextTest {
             t.append("not ");
         }
         Check.sound(t + "all;", 1);
+    }
+
+    /** What an earlier text has left behind must not count in the next one. */
+    private static void oneBehindTheOther() {
+        UnbeatenHouse x = new UnbeatenHouse();
+        Check.due("brackets left open", Check.text(x, "rule [[[[((((1"), NONE);
+        Check.due("are closed in the next one", Check.text(x, "rule [[[[((((1))))=1]]]];"), 1);
+        Check.due("longer words behind", Check.text(x, "knot abcdef;knot bcdefg;"), 2);
+        Check.due("a shorter text", Check.text(x, "knot abc"), NONE);
+        Check.due("its place", x.fault(1), 8);
+        Check.due("what was named then", Check.text(x, "wish abcdef less;rule of abcdef=0;"), 2);
+        Check.due("its set", x.front(2, 0, 0), 1);
+        Check.due("another rule", Check.text(x, "wish a less;rule of a=1;"), 2);
+        Check.due("no set", x.front(2, 0, 0), 0);
+    }
+
+    private static String padded(String text, int length) {
+        StringBuilder t = new StringBuilder(text);
+        while (t.length() < length) {
+            t.insert(0, ' ');
+        }
+        return t.toString();
+    }
+
+    private static void fullTapes() {
+        Check.sound(padded("knot abcdef;", 900), 1);
+        Check.faulty(padded("knot abcdef", 900), 1, 900);
+        Check.faulty(padded("rule 1=9999", 900), 1, 900);
+        Check.faulty(padded("knot abcdefg", 900), 1, 899);
+        StringBuilder t = new StringBuilder("rule 1");
+        while (t.length() < 896) {
+            t.append("+1");
+        }
+        Check.sound(t + "=1;", 1);
+        t.setLength(0);
+        for (int i = 0; i < 10; i++) {
+            t.append("knot k").append((char) ('a' + i)).append(';');
+        }
+        Check.sound(t.toString(), 10);
     }
 
     private static void counts() {
