@@ -87,6 +87,8 @@ public final class FrontsTest {
         Check.due("and that is at hand", x.who(0), NONE);
         Check.due("one way back", x.front(1, 1, 0), 1);
         Check.due("its knots", x.who(0), 2);
+        Check.due("from kb", x.knot(0, 0), 1);
+        Check.due("to ka", x.knot(0, 1), 0);
         Check.due("its q", x.loss(0, 1), -99);
     }
 
@@ -318,6 +320,26 @@ public final class FrontsTest {
         UnbeatenHouse y = Check.of("wish p less;wish q less;wish r less;wish s less;");
         y.grid(12);
         Check.due("455 weighings", y.agree(), 455);
+        y.grid(11);
+        Check.due("364 weighings", y.agree(), 364);
+        y.grid(4);
+        Check.due("35 weighings", y.agree(), 35);
+        Check.text(y, "wish p less;wish q less;wish r less;wish s less;row ra 0 9 9 9;row rb 9 0 9 9;row rc 9 9 0 9;"
+                + "row rd 9 9 9 0;");
+        y.grid(1);
+        y.front(0, 0, 0);
+        for (int k = 0; k < 4; k++) {
+            Check.due("one weighing for " + k, y.corner(k), 1);
+            for (int i = 0; i < 4; i++) {
+                Check.due("weight " + k + " " + i, y.weight(k, i), k == i ? 1 : 0);
+            }
+        }
+        y.grid(2);
+        // (0, 0, 0, 2), (0, 0, 1, 1), (0, 1, 0, 1), (1, 0, 0, 1) for rd; (0, 0, 1, 1) the first for rc, (1, 0, 0, 1) for ra.
+        Check.due("rd", y.corner(3), 4);
+        Check.due("rc's first", y.weight(2, 3), 1);
+        Check.due("ra's first", y.weight(0, 0), 1);
+        Check.due("ra's first, the last", y.weight(0, 3), 1);
         UnbeatenHouse z = Check.of("wish p less;");
         Check.due("one weighing", z.agree(), 1);
     }
@@ -440,6 +462,11 @@ public final class FrontsTest {
         w.front(0, 0, 0);
         Check.due("least of 1", w.standIns(1), 1);
         Check.due("by rb", w.kept(0), 1);
+        UnbeatenHouse u = Check.of("wish p less;wish q less;row ra 0 1;row rb 0 1;row rc 1 0;");
+        u.front(0, 0, 0);
+        Check.due("0 behind 1", u.standIns(2), 0);
+        Check.due("ra and", u.kept(0), 0);
+        Check.due("rc", u.kept(1), 2);
         UnbeatenHouse y = Check.of("wish p less;wish q less;row ra 0 9;row rb 3 6;row rc 6 3;");
         Check.due("no front", y.standIns(1), NONE);
         y.front(0, 0, 0);

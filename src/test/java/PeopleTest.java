@@ -193,6 +193,16 @@ public final class PeopleTest {
         // Orders: b c d three times; d c b.
         Check.due("rule 2 without a", x.choose(2), 2);
         Check.due("rule 1 without a", x.choose(1), 1);
+        UnbeatenHouse y = four();
+        y.person(0, 0, 2, 3, 1);
+        y.person(1, 0, 2, 3, 1);
+        y.person(2, 0, 3, 1, 2);
+        y.person(3, 4, 3, 1, 2);
+        y.person(4, 0, 2, 1, 3);
+        // Orders: c b d a twice; b d c a; a b d c; d b c a. c is first most often, b and d are ahead of it, a is not.
+        Check.due("rule 0 takes c", y.choose(0), 2);
+        Check.due("b is ahead of each", y.choose(3), 1);
+        Check.due("not each other one is ahead of c", y.breaks(0), 1);
     }
 
     /** Row 0 is chosen by rule 1 or 2 and is never first. */

@@ -111,6 +111,10 @@ public final class RowsTest {
         Check.due("and none comes again", x.price(2, 0, true), 0);
         Check.text(x, ROWS.replace("~", " ").replace(" 2;", ";").replace("12 3", "12").replace("9 7", "9"));
         Check.due("another text", x.has(1), 6);
+        Check.text(x, ROWS);
+        Check.text(x, ROWS);
+        Check.text(x, ROWS.replace("~", " ").replace(" 2;", ";").replace("12 3", "12").replace("9 7", "9"));
+        Check.due("one more", x.has(1), 6);
         Check.due("has no spread of the earlier one", x.price(1, 1, true), 0);
         Check.due("nor another one", x.price(2, 0, true), 0);
     }

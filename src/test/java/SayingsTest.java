@@ -183,6 +183,22 @@ public final class SayingsTest {
         x.rather(1, 0);
         Check.due("the first one is another one", x.quarrel(), 0);
         Check.due("the last weighing alone", x.could(), 4);
+        x.unsay();
+        x.rather(0, 1);
+        x.rather(0, 1);
+        Check.due("two that go together", x.quarrel(), 0);
+        x.unsay();
+        x.rather(1, 0);
+        Check.due("two that don't", x.quarrel(), 3);
+        x.unsay();
+        x.unsay();
+        x.rather(1, 0);
+        UnbeatenHouse y = Check.of("wish p less;wish q less;row ry 9 9;row rz 9 9;row ra 0 2;row rb 1 1;row rc 2 0;");
+        y.grid(1);
+        Check.due("all are asked", y.question(2), 1);
+        y.rather(2, 4);
+        y.rather(4, 2);
+        Check.due("of none", y.question(2), 0);
         // By (0,1) the rows are one apart: a slack of 1 is not first.
         Check.due("stop(0)", x.stop(0), 2);
         Check.due("stop(1)", x.stop(1), 1);

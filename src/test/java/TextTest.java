@@ -335,6 +335,14 @@ public final class TextTest {
         Check.due("its set", x.front(2, 0, 0), 1);
         Check.due("another rule", Check.text(x, "wish a less;rule of a=1;"), 2);
         Check.due("no set", x.front(2, 0, 0), 0);
+        StringBuilder t = new StringBuilder("wish a less;rule 0");
+        for (int i = 0; i < 400; i++) {
+            t.append("+1");
+        }
+        for (int i = 0; i < 6; i++) {
+            Check.due("a long rule " + i, Check.text(x, t + "=40" + i % 2 + ";"), 2);
+            Check.due("its sets " + i, x.front(2, 0, 0), 1 - i % 2);
+        }
     }
 
     private static String padded(String text, int length) {
