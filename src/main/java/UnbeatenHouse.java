@@ -60,13 +60,10 @@ public final class UnbeatenHouse {
     // More steps of a TEST, beside those that bear the number of an OWN WORD.
     private static final int NUMBER_STEP = 17;
 
-    private final int[] tape = new int[MOST_BYTES];
     private int taped;
     private Tale tale = new Tale();
-    /** A text is read into this one, so that a text with a FAULT changes nothing. */
-    private Tale spare = new Tale();
-    private final Reader reader = new Reader(tape, spare);
-    private final Rows table = new Rows(tale);
+    private final Reader reader = new Reader();
+    private final Rows table = new Rows();
     private final Pool pool = new Pool();
     private final Gatherer gatherer = new Gatherer();
     private final Front hand = new Front();
@@ -82,7 +79,6 @@ public final class UnbeatenHouse {
     private long came;
 
     public UnbeatenHouse() {
-        weighings.make(FIRST_GRID, 0);
     }
 
     // ---- the text
@@ -101,7 +97,7 @@ public final class UnbeatenHouse {
 
     private void putBytes(int number) {
         for (int shift = 24; shift >= 0; shift -= 8) {
-            tape[taped] = (number >>> shift) & 255;
+            reader.tape[taped] = (number >>> shift) & 255;
             taped++;
         }
     }
@@ -117,12 +113,10 @@ public final class UnbeatenHouse {
     public int text() {
         int length = taped;
         taped = 0;
-        if (!reader.read(length, spare)) {
+        if (!reader.read(length)) {
             return NONE;
         }
-        Tale old = tale;
-        tale = spare;
-        spare = old;
+        tale = reader.swap(tale);
         table.take(tale);
         hand.drop();
         setsOnFront = NOT_KNOWN;
@@ -603,9 +597,10 @@ public final class UnbeatenHouse {
         private static final int BAD = 4;
 
         private final int[] ownCodes = new int[OWN_WORDS];
-        private final int[] bytes;
+        private final int[] tape = new int[MOST_BYTES];
         private int length;
-        private Tale into;
+        /** A spare one, so that a text with a FAULT changes nothing. */
+        private Tale into = new Tale();
         private int at;
         private int token;
         private int value;
@@ -615,9 +610,7 @@ public final class UnbeatenHouse {
         private int wrong;
         private int wrongAt = NONE;
 
-        Reader(int[] tape, Tale tale) {
-            bytes = tape;
-            into = tale;
+        Reader() {
             for (int n = 0; n < OWN_WORDS; n++) {
                 for (int k = 0; k < MOST_LETTERS && OWN.charAt(n * MOST_LETTERS + k) != ' '; k++) {
                     ownCodes[n] = ownCodes[n] * 32 + OWN.charAt(n * MOST_LETTERS + k) - 96;
@@ -625,9 +618,15 @@ public final class UnbeatenHouse {
             }
         }
 
-        boolean read(int many, Tale tale) {
+        /** Gives what was read, and takes another one to read the next text into. */
+        Tale swap(Tale old) {
+            Tale told = into;
+            into = old;
+            return told;
+        }
+
+        boolean read(int many) {
             length = many;
-            into = tale;
             into.clear();
             at = 0;
             token = ENDED;
@@ -655,67 +654,44 @@ public final class UnbeatenHouse {
         private void advance() {
             boolean needsBlank = token == WORD || token == NUMBER;
             int behind = at;
-            for (int turn = at; turn < length && (bytes[turn] == ' ' || bytes[turn] == 10); turn++) {
+            for (int turn = at; turn < length && (tape[turn] == ' ' || tape[turn] == 10); turn++) {
                 at = turn + 1;
             }
             tokenAt = at;
             own = NONE;
+            value = 0;
             if (at >= length) {
                 token = ENDED;
                 return;
             }
-            if (isLetter(bytes[at])) {
-                takeWord();
-            } else if (isDigit(bytes[at])) {
-                takeDigits();
-            } else {
-                token = SIGN;
-                value = bytes[at];
+            token = kindOf(tape[at]);
+            if (token == SIGN) {
+                value = tape[at];
                 at++;
                 return;
             }
-            if (needsBlank && tokenAt == behind) {
-                token = BAD;
+            int most = token == WORD ? MOST_LETTERS : MOST_DIGITS;
+            int last = Math.min(length, at + most);
+            for (int k = at; k < last && kindOf(tape[k]) == token; k++) {
+                value = token == WORD ? value * 32 + tape[k] - 96 : value * 10 + tape[k] - '0';
+                at = k + 1;
             }
-            if (token == WORD) {
+            if (at < length && kindOf(tape[at]) == token) {
+                token = BAD;
+                tokenAt = at;
+            } else if (needsBlank && tokenAt == behind) {
+                token = BAD;
+            } else if (token == WORD) {
                 own = ownNumber(value);
             }
         }
 
-        private void takeWord() {
-            token = WORD;
-            value = 0;
-            int last = Math.min(length, at + MOST_LETTERS);
-            for (int k = at; k < last && isLetter(bytes[k]); k++) {
-                value = value * 32 + bytes[k] - 96;
-                at = k + 1;
+        /** Of the token that begins with a sign. */
+        private static int kindOf(int sign) {
+            if (sign >= 'a' && sign <= 'z') {
+                return WORD;
             }
-            if (at < length && isLetter(bytes[at])) {
-                token = BAD;
-                tokenAt = at;
-            }
-        }
-
-        private void takeDigits() {
-            token = NUMBER;
-            value = 0;
-            int last = Math.min(length, at + MOST_DIGITS);
-            for (int k = at; k < last && isDigit(bytes[k]); k++) {
-                value = value * 10 + bytes[k] - '0';
-                at = k + 1;
-            }
-            if (at < length && isDigit(bytes[at])) {
-                token = BAD;
-                tokenAt = at;
-            }
-        }
-
-        private static boolean isLetter(int sign) {
-            return sign >= 'a' && sign <= 'z';
-        }
-
-        private static boolean isDigit(int sign) {
-            return sign >= '0' && sign <= '9';
+            return sign >= '0' && sign <= '9' ? NUMBER : SIGN;
         }
 
         private int ownNumber(int code) {
@@ -807,8 +783,11 @@ public final class UnbeatenHouse {
                 case RULE:
                     readRule();
                     break;
+                case ROW:
+                    readRow();
+                    break;
                 default:
-                    readAmounts(kind, into.counts[kind], true);
+                    readThing();
                     break;
             }
         }
@@ -835,35 +814,39 @@ public final class UnbeatenHouse {
             int tie = into.counts[TIE];
             into.tieFrom[tie] = askName(KNOT, NONE);
             into.tieTo[tie] = askName(KNOT, into.tieFrom[tie]);
-            readAmounts(TIE, tie, false);
+            readAmounts(TIE, tie);
             into.counts[TIE]++;
         }
 
-        private void readAmounts(int kind, int which, boolean named) {
-            if (named) {
-                giveName(kind);
-            }
+        private void readThing() {
+            int thing = into.counts[THING];
+            giveName(THING);
+            readAmounts(THING, thing);
+        }
+
+        private void readAmounts(int kind, int which) {
             for (int wish = 0; wish < into.counts[WISH]; wish++) {
-                int slot = Tale.slot(kind, which, wish);
-                if (kind == ROW) {
-                    readPrice(slot, which * MOST_WISHES + wish);
-                } else {
-                    into.amounts[slot] = takeNumber();
-                }
+                into.amounts[Tale.slot(kind, which, wish)] = takeNumber();
             }
         }
 
-        private void readPrice(int slot, int spreadSlot) {
-            into.spreads[spreadSlot] = 0;
-            if (isSign('?')) {
-                into.amounts[slot] = NONE;
-                advance();
-                return;
-            }
-            into.amounts[slot] = takeNumber();
-            if (isSign('~')) {
-                advance();
-                into.spreads[spreadSlot] = takeNumber();
+        private void readRow() {
+            int row = into.counts[ROW];
+            giveName(ROW);
+            for (int wish = 0; wish < into.counts[WISH]; wish++) {
+                int amount = NONE;
+                int spread = 0;
+                if (isSign('?')) {
+                    advance();
+                } else {
+                    amount = takeNumber();
+                    if (isSign('~')) {
+                        advance();
+                        spread = takeNumber();
+                    }
+                }
+                into.amounts[Tale.slot(ROW, row, wish)] = amount;
+                into.spreads[row * MOST_WISHES + wish] = spread;
             }
         }
 
@@ -1000,7 +983,6 @@ public final class UnbeatenHouse {
 
     /** The ROWS as they are judged now. */
     private static final class Rows {
-        private Tale tale;
         private int count;
         private int wishes;
         private final int[] losses = new int[MOST_ROWS * MOST_WISHES];
@@ -1012,24 +994,19 @@ public final class UnbeatenHouse {
         private long best;
         private final int[] worths = new int[MOST_ROWS];
 
-        Rows(Tale now) {
-            tale = now;
-        }
-
-        void take(Tale now) {
-            tale = now;
+        void take(Tale tale) {
             count = tale.counts[ROW];
             wishes = tale.counts[WISH];
             aside = 0;
             for (int row = 0; row < count; row++) {
                 for (int wish = 0; wish < wishes; wish++) {
-                    takeLoss(row, wish);
+                    takeLoss(tale, row, wish);
                 }
             }
             best = unbeaten(losses, losses);
         }
 
-        private void takeLoss(int row, int wish) {
+        private void takeLoss(Tale tale, int row, int wish) {
             int amount = tale.amounts[Tale.slot(ROW, row, wish)];
             int at = row * MOST_WISHES + wish;
             if (amount == NONE) {
@@ -1442,7 +1419,7 @@ public final class UnbeatenHouse {
 
     /** The WEIGHINGS of the GRID. */
     private static final class Weighings {
-        private int sum;
+        private int sum = FIRST_GRID;
         private int wishes;
         private int count;
         private final int[] weights = new int[MOST_WEIGHINGS * MOST_WISHES];
