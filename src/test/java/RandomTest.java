@@ -207,7 +207,8 @@ public final class RandomTest {
         int many = 1 + below(3);
         for (int i = 0; i < many && t.length() > 0; i++) {
             int at = below(t.length());
-            switch (below(6)) {
+            switch (below(8)) {
+                case 6, 7 -> putToken(t, at);
                 case 0 -> t.deleteCharAt(at);
                 case 1 -> t.insert(at, some.charAt(below(some.length())));
                 case 2 -> t.setCharAt(at, some.charAt(below(some.length())));
@@ -224,6 +225,22 @@ public final class RandomTest {
                 "thing q 1;", "rule all;", "rule many<((((((((1))))))));", "rule [[[[[[[[(1)=1]]]]]]]];",
                 "rule not not all;", "abcdefg", "12345", "rule has ra;", "rule of ta=1;", "rule min(1,2)<3;", "knot many;");
         return l.get(below(l.size()));
+    }
+
+    /** Puts a token in the place of one, or ahead of it. */
+    private void putToken(StringBuilder t, int about) {
+        List<String> l = List.of("wish", "row", "knot", "tie", "thing", "rule", "less", "more", "or", "and", "not", "all",
+                "has", "many", "of", "min", "max", "a", "b", "ra", "ka", "kb", "ta", "tb", "zz", "7", "0", "1234", "(", ")",
+                "[", "]", "<", ">", "=", "+", "-", "*", "/", ",", ";", "~", "?", "abcdefg", "12345", "5ab", "5abcdefg", "a5");
+        int from = about;
+        while (from > 0 && Character.isLetterOrDigit(t.charAt(from - 1))) {
+            from--;
+        }
+        int to = from;
+        while (once(2) && to < t.length() && Character.isLetterOrDigit(t.charAt(to))) {
+            to++;
+        }
+        t.replace(from, to, l.get(below(l.size())) + (once(4) ? "" : " "));
     }
 
     private void swapWords(StringBuilder t) {
