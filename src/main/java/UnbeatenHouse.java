@@ -580,6 +580,13 @@ public final class UnbeatenHouse {
             }
         }
 
+        void endRule() {
+            if (counts[RULE] < MOST_RULES) {
+                ruleEnds[counts[RULE]] = stepCount;
+                counts[RULE]++;
+            }
+        }
+
         int lossFor(int wish, int amount) {
             return more[wish] ? -amount : amount;
         }
@@ -654,9 +661,7 @@ public final class UnbeatenHouse {
         private void advance() {
             boolean needsBlank = token == WORD || token == NUMBER;
             int behind = at;
-            for (int turn = at; turn < length && (tape[turn] == ' ' || tape[turn] == 10); turn++) {
-                at = turn + 1;
-            }
+            skipBlanks();
             tokenAt = at;
             own = NONE;
             value = 0;
@@ -670,6 +675,11 @@ public final class UnbeatenHouse {
                 at++;
                 return;
             }
+            // Looked at ahead of the length: the first byte is one too many then, however long the rest.
+            if (needsBlank && tokenAt == behind) {
+                token = BAD;
+                return;
+            }
             int most = token == WORD ? MOST_LETTERS : MOST_DIGITS;
             int last = Math.min(length, at + most);
             for (int k = at; k < last && kindOf(tape[k]) == token; k++) {
@@ -679,10 +689,14 @@ public final class UnbeatenHouse {
             if (at < length && kindOf(tape[at]) == token) {
                 token = BAD;
                 tokenAt = at;
-            } else if (needsBlank && tokenAt == behind) {
-                token = BAD;
             } else if (token == WORD) {
                 own = ownNumber(value);
+            }
+        }
+
+        private void skipBlanks() {
+            for (int turn = at; turn < length && (tape[turn] == ' ' || tape[turn] == 10); turn++) {
+                at = turn + 1;
             }
         }
 
@@ -781,7 +795,8 @@ public final class UnbeatenHouse {
                     readTie();
                     break;
                 case RULE:
-                    readRule();
+                    readTest();
+                    into.endRule();
                     break;
                 case ROW:
                     readRow();
@@ -850,13 +865,6 @@ public final class UnbeatenHouse {
             }
         }
 
-        private void readRule() {
-            int rule = into.counts[RULE];
-            readTest();
-            into.ruleEnds[rule] = into.stepCount;
-            into.counts[RULE]++;
-        }
-
         private void readTest() {
             readBoth();
             for (int turn = 0; turn < MOST_BYTES && own == OR; turn++) {
@@ -884,7 +892,8 @@ public final class UnbeatenHouse {
             if (isSign('[')) {
                 if (opensOne('[')) {
                     readTest();
-                    closeOne(']');
+                    take(']');
+                    open--;
                 }
             } else if (own == ALL) {
                 into.addStep(ALL, 0);
@@ -893,23 +902,24 @@ public final class UnbeatenHouse {
                 advance();
                 into.addStep(HAS, askName(THING, NONE));
             } else {
-                readComparison();
+                readSum();
+                int sign = takeComparison();
+                readSum();
+                into.addStep(sign, 0);
             }
             if (turned) {
                 into.addStep(NOT, 0);
             }
         }
 
-        private void readComparison() {
-            readSum();
+        private int takeComparison() {
             int sign = value;
             if (isSign('<') || isSign('>') || isSign('=')) {
                 advance();
-            } else {
-                blame(1);
+                return sign;
             }
-            readSum();
-            into.addStep(sign, 0);
+            blame(1);
+            return NONE;
         }
 
         private void readSum() {
@@ -947,7 +957,8 @@ public final class UnbeatenHouse {
                 readPair(word);
             } else if (opensOne('(')) {
                 readSum();
-                closeOne(')');
+                take(')');
+                open--;
             }
         }
 
@@ -956,7 +967,8 @@ public final class UnbeatenHouse {
                 readSum();
                 take(',');
                 readSum();
-                closeOne(')');
+                take(')');
+                open--;
                 into.addStep(word, 0);
             }
         }
@@ -973,11 +985,6 @@ public final class UnbeatenHouse {
             open++;
             advance();
             return true;
-        }
-
-        private void closeOne(int sign) {
-            take(sign);
-            open--;
         }
     }
 

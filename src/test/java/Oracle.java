@@ -87,6 +87,9 @@ final class Oracle {
                 return "";
             }
             char c = s.charAt(pos);
+            if ((low(c) || dig(c)) && pos > 0 && (low(s.charAt(pos - 1)) || dig(s.charAt(pos - 1)))) {
+                throw new Fault(1, pos);
+            }
             int e = pos + 1;
             if (low(c)) {
                 while (e < s.length() && low(s.charAt(e))) {
@@ -102,9 +105,6 @@ final class Oracle {
                 if (e - pos > 4) {
                     throw new Fault(1, pos + 4);
                 }
-            }
-            if ((low(c) || dig(c)) && pos > 0 && (low(s.charAt(pos - 1)) || dig(s.charAt(pos - 1)))) {
-                throw new Fault(1, pos);
             }
             if (before > pos) {
                 throw new IllegalStateException();
@@ -432,6 +432,11 @@ final class Oracle {
         }
         tape = tape.substring(0, n);
         return true;
+    }
+
+    int text(String text) {
+        tape = text;
+        return text();
     }
 
     int text() {

@@ -61,6 +61,7 @@ public final class RandomTest {
         due("text of «" + cut + "»", x.text(), y.text());
         due("fault", x.fault(0), y.fault(0));
         due("fault place in «" + cut + "»", x.fault(1), y.fault(1));
+        FirstFaultTest.holds(cut);
         for (int i = -1; i < 9; i++) {
             due("has " + i, x.has(i), y.has(i));
         }
@@ -231,7 +232,8 @@ public final class RandomTest {
     private void putToken(StringBuilder t, int about) {
         List<String> l = List.of("wish", "row", "knot", "tie", "thing", "rule", "less", "more", "or", "and", "not", "all",
                 "has", "many", "of", "min", "max", "a", "b", "ra", "ka", "kb", "ta", "tb", "zz", "7", "0", "1234", "(", ")",
-                "[", "]", "<", ">", "=", "+", "-", "*", "/", ",", ";", "~", "?", "abcdefg", "12345", "5ab", "5abcdefg", "a5");
+                "[", "]", "<", ">", "=", "+", "-", "*", "/", ",", ";", "~", "?", "abcdefg", "12345", "5ab", "5abcdefg", "a5", "a12345",
+                "abcdefg12345", "12345abcdefg", "5and67890", "not12345");
         int from = about;
         while (from > 0 && Character.isLetterOrDigit(t.charAt(from - 1))) {
             from--;

@@ -199,6 +199,43 @@ public final class TextTest {
         Check.faulty("rule 1=1or all;", 1, 8);
         Check.sound("rule 1=1 and 2=2;", 1);
         Check.faulty("wish a less;wish a1 less;", 2, 17);
+        sideBySide();
+    }
+
+    /** Where a blank is missing, the first byte behind is told, however long the rest is. */
+    private static void sideBySide() {
+        String row = "wish a less;row b ";
+        for (String digits : new String[] {"1", "1234", "12345", "123456789"}) {
+            Check.faulty("knot a" + digits + ";", 1, 6);
+            Check.faulty("knot abcdef" + digits + ";", 1, 11);
+            Check.faulty("wish a less;row b" + digits + ";", 1, 17);
+            Check.faulty("wish" + digits, 1, 4);
+            Check.faulty("rule not" + digits + "=1;", 1, 8);
+            Check.faulty("rule many" + digits + "=1;", 1, 9);
+            Check.faulty("rule has" + digits, 1, 8);
+            Check.faulty("rule min" + digits + "(1,2)=1;", 1, 8);
+            Check.faulty("knot abcdefg" + digits + ";", 1, 11);
+            Check.faulty("knot a " + digits + ";", 1, digits.length() > 4 ? 11 : 7);
+            Check.faulty("knot a\n" + digits + ";", 1, digits.length() > 4 ? 11 : 7);
+            Check.faulty("wish a less;wish a" + digits + " less;", 2, 17);
+            Check.faulty("wish a less;knot b;tie b b" + digits + ";", 3, 25);
+        }
+        for (String letters : new String[] {"x", "and", "abcdef", "abcdefg", "abcdefghijkl"}) {
+            Check.faulty(row + "1" + letters + ";", 1, 19);
+            Check.faulty(row + "1234" + letters + ";", 1, 22);
+            Check.faulty(row + "1~23" + letters + ";", 1, 22);
+            Check.faulty("rule 1=2" + letters + " all;", 1, 8);
+            Check.faulty("rule 1=2+34" + letters + " all;", 1, 11);
+            Check.faulty("rule 5" + letters + "5678901", 1, 6);
+            Check.faulty(row + "12345" + letters + ";", 1, 22);
+            Check.faulty(row + "1 " + letters + ";", 1, letters.length() > 6 ? 26 : 20);
+        }
+        // A sign between needs no blank: there a 5th digit, a 7th letter is told at itself.
+        Check.faulty("knot a;12345", 1, 11);
+        Check.faulty("knot a;abcdefg", 1, 13);
+        Check.faulty(row + "?12345;", 1, 23);
+        Check.faulty(row + "?abcdefg;", 1, 25);
+        Check.faulty("rule (12345", 1, 10);
     }
 
     private static void names() {
