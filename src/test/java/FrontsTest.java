@@ -227,6 +227,8 @@ public final class FrontsTest {
         setsHold("[has ta or has tb] and has tc", 5, 6, 7);
         setsHold("not has ta and has tb", 2, 6);
         setsHold("not [has ta and has tb]", 0, 1, 2, 4, 5, 6);
+        setsHold("has ta and not has tb", 1, 5);
+        setsHold("has ta or not has tb and has tc", 1, 3, 4, 5, 7);
         setsHold("many=2", 3, 5, 6);
         setsHold("many<1", 0);
         setsHold("many>2", 7);

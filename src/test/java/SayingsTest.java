@@ -14,6 +14,7 @@ public final class SayingsTest {
         questions();
         likeQuestions();
         quarrels();
+        noQuarrel();
         likeQuarrels();
         stops();
         again();
@@ -158,6 +159,17 @@ public final class SayingsTest {
         y.rather(0, 2);
         // Grid 1 weighs one wish alone: (1,0,0): ra best, and like rb rc.
         Check.due("three together", y.quarrel(), 0b111);
+    }
+
+    /** What agrees with three agrees with each two of them. */
+    private static void noQuarrel() {
+        UnbeatenHouse x = Check.of("wish p less;wish q less;row ra 0 2;row rb 1 1;row rc 2 0;");
+        x.grid(1);
+        x.rather(0, 1);
+        x.rather(0, 2);
+        x.rather(1, 2);
+        Check.due("all three by (1,0), none by (0,1)", x.agree(), 1);
+        Check.due("no quarrel", x.quarrel(), 0);
     }
 
     /** What an earlier call has found must not count in the next one. */

@@ -192,6 +192,10 @@ public final class TextTest {
         Check.faulty("wish a less;row b 12345;", 1, 22);
         Check.faulty("12345", 1, 4);
         Check.faulty("knot a 99999;", 1, 11);
+        // Six of its letters are no NAME that is there, or is none.
+        Check.faulty("knot abcdef;knot abcdefg;", 1, 23);
+        Check.faulty("knot abcdef;wish a less;tie abcdefg", 1, 34);
+        Check.faulty("wish a less;rule of abcdefg=1;", 1, 26);
         // Words and numbers side by side need a blank.
         Check.faulty("wish a less;row b1;", 1, 17);
         Check.faulty("wish a less;rule not1=1;", 1, 20);
@@ -325,6 +329,12 @@ public final class TextTest {
         Check.faulty("rule [[[[[[[[(1)=1]]]]]]]];", 5, 13);
         Check.faulty("rule [[[[[[[min(1,(2))=1]]]]]]];", 5, 18);
         Check.sound("rule [[[[[[[min(1,2)+max(1,2)=(1)]]]]]]]and(1)=1;", 1);
+        // Those that are closed again don't count.
+        Check.sound("rule " + "[all]and ".repeat(20) + "all;", 1);
+        Check.sound("rule " + "(1)+".repeat(20) + "1=1;", 1);
+        Check.sound("rule " + "min(1,2)+".repeat(20) + "1=1;", 1);
+        Check.sound("rule (1)=1;".repeat(12), 12);
+        Check.faulty("rule [all]and(1)+min(1,2)=" + "(".repeat(9), 5, 34);
         // Where a bracket can't stand it is the first byte with which no text goes on.
         Check.faulty("rule [[[[[[[[all(", 1, 16);
         Check.faulty("rule ([all])=1;", 1, 6);
