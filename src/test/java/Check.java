@@ -4,8 +4,24 @@ import java.nio.charset.StandardCharsets;
 final class Check {
     private static int asked = 0;
     private static int wrong = 0;
+    /** The sentence of the document that is being asked about; "" ahead of any. */
+    private static String sentence = "";
+    private static int askedAhead = 0;
 
     private Check() {
+    }
+
+    /** From here on the answers are about these words of the document; all words told so need one. */
+    static void sentence(String where, String words) {
+        endSentence();
+        sentence = where + " «" + words + "»: ";
+        askedAhead = asked;
+    }
+
+    private static void endSentence() {
+        if (!sentence.isEmpty() && asked == askedAhead) {
+            due("answers asked for", 0, 1);
+        }
     }
 
     static void due(String what, long got, long want) {
@@ -13,7 +29,7 @@ final class Check {
         if (got != want) {
             wrong++;
             if (wrong <= 40) {
-                System.out.println(what + " answered " + got + ", due is " + want);
+                System.out.println(sentence + what + " answered " + got + ", due is " + want);
             }
         }
     }
@@ -28,6 +44,7 @@ final class Check {
 
     /** Ends the program: exit code 1 if anything was wrong, or if nothing was asked. */
     static void finish(String test) {
+        endSentence();
         System.out.println(test + ": " + asked + " answers, " + wrong + " not as due");
         if (wrong != 0 || asked == 0) {
             System.exit(1);
