@@ -8,6 +8,8 @@ public final class UnbeatenHouse {
     private static final int NO_LOSS = -2000000000;
     private static final int TOO_MANY = -2;
     private static final int NOT_KNOWN = -3;
+    /** More than any WORTH and than any difference of LOSSES. */
+    private static final int FAR = 2000000000;
 
     private static final int MOST_BYTES = 900;
     private static final int MOST_WISHES = 4;
@@ -1065,7 +1067,7 @@ public final class UnbeatenHouse {
 
         /** Those of the FRONT whose WORTH is not more than the least one and so much. */
         long firstBy(int n, Weighings by, int slack) {
-            int least = Integer.MAX_VALUE;
+            int least = FAR;
             for (int row = 0; row < count; row++) {
                 worths[row] = by.weigh(n, losses, row * MOST_WISHES);
                 if (isIn(best, row)) {
@@ -1801,7 +1803,7 @@ public final class UnbeatenHouse {
 
         int pickClosest(Front front, int wishes, int size) {
             measure(front, wishes);
-            return pickOf(size, Integer.MAX_VALUE, 0);
+            return pickOf(size, FAR, 0);
         }
 
         private void measure(Front front, int wishes) {
@@ -1843,7 +1845,7 @@ public final class UnbeatenHouse {
         private int farthest(int size, int bound) {
             int farthest = 0;
             for (int b = 0; b < count && farthest < bound; b++) {
-                int closest = Integer.MAX_VALUE;
+                int closest = FAR;
                 for (int i = 0; i < size; i++) {
                     closest = Math.min(closest, distances[tried[i] * MOST_STOOD_FOR + b]);
                 }

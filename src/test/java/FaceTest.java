@@ -1,4 +1,5 @@
 import java.io.IOException;
+import java.lang.reflect.Array;
 import java.lang.reflect.Constructor;
 import java.lang.reflect.Field;
 import java.lang.reflect.Method;
@@ -39,6 +40,8 @@ public final class FaceTest {
         words(source);
         library(source);
         methods(source);
+        madeWithTheObject(source);
+        roomOfAnObject();
         Check.finish("FaceTest");
     }
 
@@ -133,8 +136,7 @@ public final class FaceTest {
 
     /** Every call of a library class is one that the rules list. */
     private static void library(String source) {
-        Set<String> allowed = Set.of("Math.min", "Math.max", "Math.floorDiv", "Integer.bitCount", "Integer.MAX_VALUE",
-                "Long.bitCount", "Long.numberOfTrailingZeros", "System.arraycopy");
+        Set<String> allowed = Set.of("Math.min", "Math.max", "Math.floorDiv", "Integer.bitCount", "Long.bitCount", "Long.numberOfTrailingZeros", "System.arraycopy");
         Matcher m = Pattern.compile("\\b(Math|Integer|Long|System|Arrays|String|Character|List|ArrayList)\\.(\\w+)")
                 .matcher(source);
         while (m.find()) {
@@ -156,6 +158,51 @@ public final class FaceTest {
                     start = -1;
                 }
             }
+        }
+    }
+
+    /** Nothing is made but with an object: what stands behind new is what a field begins with. */
+    private static void madeWithTheObject(String source) {
+        Matcher m = Pattern.compile("[^\n]*\\bnew\\b[^\n]*").matcher(source);
+        int made = 0;
+        while (m.find()) {
+            made++;
+            Check.due("a field: " + m.group().trim(), m.group().matches("    ( {4})?private (final )?\\S+ \\w+ = new .*;"), true);
+        }
+        Check.due("some are made", made > 10, true);
+    }
+
+    /** A run has a room of some 7.3 million fields and elements for all its objects. */
+    private static void roomOfAnObject() {
+        int[] room = new int[2];
+        count(new UnbeatenHouse(), room);
+        Check.due("objects and arrays: " + room[0], room[0] < 100, true);
+        Check.due("fields and elements: " + room[1], room[1] < 60000, true);
+    }
+
+    private static void count(Object object, int[] room) {
+        room[0]++;
+        if (object.getClass().isArray()) {
+            room[1] += Array.getLength(object);
+            return;
+        }
+        for (Field field : object.getClass().getDeclaredFields()) {
+            if (!Modifier.isStatic(field.getModifiers())) {
+                room[1]++;
+                countBehind(field, object, room);
+            }
+        }
+    }
+
+    private static void countBehind(Field field, Object object, int[] room) {
+        if (field.getType().isPrimitive()) {
+            return;
+        }
+        try {
+            field.setAccessible(true);
+            count(field.get(object), room);
+        } catch (IllegalAccessException e) {
+            Check.due("a field that can't be read: " + field, 1, 0);
         }
     }
 }

@@ -1,3 +1,4 @@
+import java.util.ArrayList;
 import java.util.List;
 
 /** Terms I, where a text can go on and where not: blanks, and each FAULT at the edge of what is none. */
@@ -20,6 +21,7 @@ public final class FaultEdgesTest {
         sideBySide();
         endsTooSoon();
         noByteOfAText();
+        leftOut();
         wholeAtTheirFirstByte();
         tooLong();
         ownWords();
@@ -167,6 +169,28 @@ public final class FaultEdgesTest {
         Check.faulty("rule 1=1,2;", 1, 8);
     }
 
+    /** The text without one of its tokens: mostly the next one is told, but a few can stand in for what is left out. */
+    private static void leftOut() {
+        Check.sentence("Terms I", "1 the first byte with which no TEXT goes on");
+        int[][] further = {{11, 1}, {12, 1}, {17, 1}, {27, 1}, {29, 1}, {34, 1}, {42, 31}, {43, 3}, {47, 10}, {49, 2},
+            {54, 3}, {61, 2}};
+        for (int i = 0; i < TOKENS.length; i++) {
+            List<String> rest = new ArrayList<>(List.of(TOKENS));
+            String token = rest.remove(i);
+            int told = i;
+            for (int[] one : further) {
+                told += one[0] == i ? one[1] : 0;
+            }
+            String text = String.join(" ", rest) + " ";
+            String ahead = String.join(" ", rest.subList(0, told)) + (told > 0 ? " " : "");
+            if (token.equals("not")) {
+                Check.sound(text, 9);
+            } else {
+                Check.faulty(text, 1, ahead.length());
+            }
+        }
+    }
+
     private static void wholeAtTheirFirstByte() {
         Check.sentence("Terms I", "(WORDS, NUMBERS whole, at their first byte");
         for (int i = 0; i < TOKENS.length; i++) {
@@ -210,7 +234,7 @@ public final class FaultEdgesTest {
     }
 
     private static void ownWords() {
-        Check.sentence("Terms I", "OWN WORDS, which no NAME is: an OWN WORD where a NAME must be");
+        Check.sentence("Terms I", "an OWN WORD where a NAME must be");
         for (int i = 0; i < TOKENS.length; i++) {
             for (String own : OWN) {
                 if (isName(i)) {
@@ -221,7 +245,8 @@ public final class FaultEdgesTest {
     }
 
     private static void nearlyOwnWords() {
-        Check.sentence("Terms I", "wish, less, more, row, knot, tie, thing, rule, or, and, not, all, has, many, of, min, max");
+        Check.sentence("Terms I", "OWN WORDS, which no NAME is: wish, less, more, row, knot, tie, thing, rule, or, and, not, "
+                + "all, has, many, of, min, max");
         for (String own : OWN) {
             String cut = own.substring(0, own.length() - 1);
             for (String name : new String[] {cut, own + "s", "x" + own}) {
@@ -236,7 +261,8 @@ public final class FaultEdgesTest {
     // ---- faults 2 and 3
 
     private static void givenTwice() {
-        Check.sentence("Terms I", "2 a NAME to be given that is there already, at its first byte");
+        Check.sentence("Terms I", "NAMES are unlike ones of all kinds together. .. "
+                + "2 a NAME to be given that is there already, at its first byte");
         String[] kinds = {"wish @ more;", "knot @;", "row @ 1;", "thing @ 1;"};
         for (int a = 0; a < 4; a++) {
             for (int b = 0; b < 4; b++) {
@@ -264,7 +290,7 @@ public final class FaultEdgesTest {
     }
 
     private static void noneOfTheKind() {
-        Check.sentence("Terms I", "3 a NAME that is none of the kind that is asked, at its first byte");
+        Check.sentence("Terms I", "3 a NAME that is none of the kind that is asked .. , at its first byte");
         for (int i = 0; i < TOKENS.length; i++) {
             if (isName(i) && !isGiven(i)) {
                 int at = first(i).length() + 1;
@@ -288,7 +314,7 @@ public final class FaultEdgesTest {
     }
 
     private static void sameKnot() {
-        Check.sentence("Terms I", "(or the same KNOT again)");
+        Check.sentence("Terms I", "(from the first KNOT to the second one, unlike ones) .. (or the same KNOT again)");
         String ahead = "wish p less;knot ka;knot kb;";
         Check.faulty(ahead + "tie ka ka 1;", 3, 35);
         Check.faulty(ahead + "tie kb kb 1;", 3, 35);

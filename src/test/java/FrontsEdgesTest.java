@@ -49,24 +49,6 @@ public final class FrontsEdgesTest {
         Check.finish("FrontsEdgesTest");
     }
 
-    private static String knots(int many) {
-        StringBuilder t = new StringBuilder();
-        for (int i = 0; i < many; i++) {
-            t.append("knot k").append((char) ('a' + i)).append(';');
-        }
-        return t.toString();
-    }
-
-    /** On a front all of them, each with 10 more of both wishes than the one ahead. */
-    private static String stair(int rows) {
-        StringBuilder t = new StringBuilder("wish p less;wish q more;");
-        for (int i = 0; i < rows; i++) {
-            t.append("row r").append((char) ('a' + i / 26)).append((char) ('a' + i % 26)).append(' ');
-            t.append(10 * i).append(' ').append(10 * i).append(';');
-        }
-        return t.toString();
-    }
-
     private static UnbeatenHouse rowsAtHand(String text) {
         UnbeatenHouse x = Check.of(text);
         x.front(0, 0, 0);
@@ -84,7 +66,7 @@ public final class FrontsEdgesTest {
 
     private static void waysGoByTies() {
         Check.sentence("Terms II", "A WAY from a KNOT to another one goes by TIES");
-        UnbeatenHouse x = Check.of("wish p less;" + knots(4) + "tie ka kb 1;tie kb kc 1;");
+        UnbeatenHouse x = Check.of("wish p less;" + Texts.knots(4) + "tie ka kb 1;tie kb kc 1;");
         Check.due("a to b", x.front(1, 0, 1), 1);
         way(x, 0, 0, 1);
         Check.due("a to c", x.front(1, 0, 2), 1);
@@ -92,19 +74,19 @@ public final class FrontsEdgesTest {
         Check.due("against the tie", x.front(1, 1, 0), 0);
         Check.due("to one without ties", x.front(1, 0, 3), 0);
         Check.due("from one without ties", x.front(1, 3, 0), 0);
-        Check.due("no ties at all", Check.of("wish p less;" + knots(2)).front(1, 0, 1), 0);
+        Check.due("no ties at all", Check.of("wish p less;" + Texts.knots(2)).front(1, 0, 1), 0);
     }
 
     private static void noKnotTwice() {
         Check.sentence("Terms II", "no KNOT twice");
         // More is better, but the ring of b, c and d can't be gone round, nor a or e be passed again.
-        UnbeatenHouse x = Check.of("wish p more;" + knots(5) + "tie ka kb 0;tie kb kc 9;tie kc kd 9;tie kd kb 9;tie kd ke 0;"
+        UnbeatenHouse x = Check.of("wish p more;" + Texts.knots(5) + "tie ka kb 0;tie kb kc 9;tie kc kd 9;tie kd kb 9;tie kd ke 0;"
                 + "tie kb ka 99;tie ke kb 99;tie ke ka 99;");
         Check.due("one way", x.front(1, 0, 4), 1);
         way(x, 0, 0, 1, 2, 3, 4);
         Check.due("its loss", x.loss(0, 0), -18);
         // Through all ten knots.
-        StringBuilder t = new StringBuilder("wish p more;" + knots(10));
+        StringBuilder t = new StringBuilder("wish p more;" + Texts.knots(10));
         for (int i = 0; i < 9; i++) {
             t.append("tie k").append((char) ('a' + i)).append(" k").append((char) ('b' + i)).append(" 9999;");
             t.append("tie k").append((char) ('b' + i)).append(" k").append((char) ('a' + i)).append(" 9999;");
@@ -119,7 +101,7 @@ public final class FrontsEdgesTest {
 
     private static void sumsOfTies() {
         Check.sentence("Terms II", "it has the sums of its TIES");
-        StringBuilder t = new StringBuilder("wish p less;wish q more;wish r less;wish s more;" + knots(10));
+        StringBuilder t = new StringBuilder("wish p less;wish q more;wish r less;wish s more;" + Texts.knots(10));
         for (int i = 0; i < 9; i++) {
             t.append("tie k").append((char) ('a' + i)).append(" k").append((char) ('b' + i)).append(" 9999 9999 0 1;");
         }
@@ -149,13 +131,13 @@ public final class FrontsEdgesTest {
 
     private static void unlikeRows() {
         Check.sentence("Terms II", "Of WAYS, of SETS: of all unlike rows of LOSSES that no other one beats");
-        UnbeatenHouse x = Check.of("wish p less;wish q more;" + knots(2) + "tie ka kb 1 1;".repeat(12) + "tie ka kb 2 2;".repeat(12));
+        UnbeatenHouse x = Check.of("wish p less;wish q more;" + Texts.knots(2) + "tie ka kb 1 1;".repeat(12) + "tie ka kb 2 2;".repeat(12));
         Check.due("24 ways, two rows", x.front(1, 0, 1), 2);
         UnbeatenHouse y = Check.of("wish p less;wish q more;thing ta 1 1;thing tb 1 1;thing tc 1 1;");
         Check.due("8 sets, four rows", y.front(2, 0, 0), 4);
         // Of ROWS the like ones are all on it.
         Check.due("like rows", rowsAtHand("wish p less;row ra 1;row rb 1;row rc 1;").who(2), 2);
-        UnbeatenHouse z = Check.of("wish p less;wish q less;" + knots(2) + "tie ka kb 1 2;tie ka kb 2 1;tie ka kb 2 2;tie ka kb 1 3;");
+        UnbeatenHouse z = Check.of("wish p less;wish q less;" + Texts.knots(2) + "tie ka kb 1 2;tie ka kb 2 1;tie ka kb 2 2;tie ka kb 1 3;");
         Check.due("two beaten ones", z.front(1, 0, 1), 2);
     }
 
@@ -163,7 +145,7 @@ public final class FrontsEdgesTest {
         Check.sentence("Terms II", "by these rows (the first WISH first, the lesser LOSS first)");
         String wishes = "wish p more;wish q less;wish r more;";
         int[][] all = {{9, 9, 9}, {9, 8, 0}, {9, 7, 0}, {8, 0, 9}, {8, 0, 8}, {0, 0, 99}, {9, 9, 10}};
-        StringBuilder ways = new StringBuilder(wishes + knots(2));
+        StringBuilder ways = new StringBuilder(wishes + Texts.knots(2));
         StringBuilder sets = new StringBuilder(wishes + "rule many=1;");
         for (int i = 0; i < all.length; i++) {
             String numbers = all[i][0] + " " + all[i][1] + " " + all[i][2] + ";";
@@ -190,19 +172,19 @@ public final class FrontsEdgesTest {
         Check.sentence("Terms II", "each with the first WAY as a row of KNOTS");
         // a b j, a c j, a j: all have 2; told from behind.
         String ties = "tie ka kj 2;tie ka kc 1;tie kc kj 1;tie ka kb 1;tie kb kj 1;";
-        UnbeatenHouse x = Check.of("wish p less;" + knots(10) + ties);
+        UnbeatenHouse x = Check.of("wish p less;" + Texts.knots(10) + ties);
         Check.due("a to j", x.front(1, 0, 9), 1);
         way(x, 0, 0, 1, 9);
-        UnbeatenHouse y = Check.of("wish p less;" + knots(10) + "tie ka kb 2;" + ties.replace("ka kb", "kd kb"));
+        UnbeatenHouse y = Check.of("wish p less;" + Texts.knots(10) + "tie ka kb 2;" + ties.replace("ka kb", "kd kb"));
         // Now b is 2 from a: a b j has 3, a c j and a j have 2.
         Check.due("a to j", y.front(1, 0, 9), 1);
         way(y, 0, 0, 2, 9);
         // A longer row is the first one if its first unlike KNOT is less: a b i j ahead of a c j.
-        UnbeatenHouse z = Check.of("wish p less;" + knots(10) + "tie ka kc 2;tie kc kj 1;tie ki kj 1;tie kb ki 1;tie ka kb 1;");
+        UnbeatenHouse z = Check.of("wish p less;" + Texts.knots(10) + "tie ka kc 2;tie kc kj 1;tie ki kj 1;tie kb ki 1;tie ka kb 1;");
         Check.due("a to j", z.front(1, 0, 9), 1);
         way(z, 0, 0, 1, 8, 9);
         // From j back to a the knots are none the less in the order of numbers.
-        UnbeatenHouse u = Check.of("wish p less;" + knots(10) + "tie kj ki 1;tie ki ka 1;tie kj kb 1;tie kb ka 1;tie kj ka 2;");
+        UnbeatenHouse u = Check.of("wish p less;" + Texts.knots(10) + "tie kj ki 1;tie ki ka 1;tie kj kb 1;tie kb ka 1;tie kj ka 2;");
         Check.due("j to a", u.front(1, 9, 0), 1);
         way(u, 0, 9, 0);
     }
@@ -231,7 +213,7 @@ public final class FrontsEdgesTest {
 
     /** Two hops of ties: so many ways that none beats another one. */
     private static String hops(int first, int second, int straight) {
-        StringBuilder t = new StringBuilder("wish p less;wish q more;" + knots(3));
+        StringBuilder t = new StringBuilder("wish p less;wish q more;" + Texts.knots(3));
         for (int i = 0; i < first; i++) {
             t.append("tie ka kb ").append(i).append(' ').append(i).append(';');
         }
@@ -245,7 +227,7 @@ public final class FrontsEdgesTest {
     }
 
     private static void hundredWays() {
-        Check.sentence("Promise 16", "-2 if there would be more than 100 (WAYS)");
+        Check.sentence("Promise 16", "of WAYS .. -2 if there would be more than 100");
         Check.due("99", Check.of(hops(11, 9, 0)).front(1, 0, 2), 99);
         UnbeatenHouse x = Check.of(hops(10, 10, 0));
         Check.due("100", x.front(1, 0, 2), 100);
@@ -264,31 +246,23 @@ public final class FrontsEdgesTest {
         Check.due("one beats them all", Check.of(hops(12, 11, 0) + "tie ka kc 0 9999;").front(1, 0, 2), 1);
     }
 
-    private static String powers(int things, String rules) {
-        StringBuilder t = new StringBuilder("wish p less;wish q more;");
-        for (int i = 0; i < things; i++) {
-            t.append("thing t").append((char) ('a' + i)).append(' ').append(1 << i).append(' ').append(1 << i).append(';');
-        }
-        return t + rules;
-    }
-
     private static void hundredSets() {
-        Check.sentence("Promise 16", "-2 if there would be more than 100 (SETS)");
-        Check.due("99", Check.of(powers(12, "rule of p<99;")).front(2, 0, 0), 99);
-        UnbeatenHouse x = Check.of(powers(12, "rule of p<100;"));
+        Check.sentence("Promise 16", "of SETS .. -2 if there would be more than 100");
+        Check.due("99", Check.of(Texts.powers(12, "rule of p<99;")).front(2, 0, 0), 99);
+        UnbeatenHouse x = Check.of(Texts.powers(12, "rule of p<100;"));
         Check.due("100", x.front(2, 0, 0), 100);
         for (int k = 0; k < 100; k++) {
             Check.due("set " + k, x.who(k), k);
         }
         Check.due("no more", x.who(100), NONE);
-        Check.due("101", Check.of(powers(12, "rule of p<101;")).front(2, 0, 0), -2);
-        Check.due("4096", Check.of(powers(12, "")).front(2, 0, 0), -2);
-        Check.due("one of 4096", Check.of(powers(12, "").replace("more", "less")).front(2, 0, 0), 1);
+        Check.due("101", Check.of(Texts.powers(12, "rule of p<101;")).front(2, 0, 0), -2);
+        Check.due("4096", Check.of(Texts.powers(12, "")).front(2, 0, 0), -2);
+        Check.due("one of 4096", Check.of(Texts.powers(12, "").replace("more", "less")).front(2, 0, 0), 1);
     }
 
     private static void atHandStays() {
         Check.sentence("Terms II", "(THE FRONT at hand stays as it was, whatever is changed behind.)");
-        UnbeatenHouse x = rowsAtHand(stair(3));
+        UnbeatenHouse x = rowsAtHand(Texts.steepStair(3));
         x.change(1, 0, NONE);
         x.change(0, 0, 9999);
         x.grid(2);
@@ -309,8 +283,8 @@ public final class FrontsEdgesTest {
     }
 
     private static void notLookedAt() {
-        Check.sentence("Promise 16", "ROWS (what 0; from, to are not looked at); SETS (2; likewise)");
-        UnbeatenHouse x = Check.of(stair(3) + "thing ta 1 1;");
+        Check.sentence("Promise 16", "of ROWS (what 0; from, to are not looked at) .. of SETS (2; likewise)");
+        UnbeatenHouse x = Check.of(Texts.steepStair(3) + "thing ta 1 1;");
         for (int n : new int[] {MIN, -1, 0, 1, 10, MAX}) {
             Check.due("rows", x.front(0, n, n), 3);
             Check.due("rows", x.front(0, n, 0), 3);
@@ -323,7 +297,7 @@ public final class FrontsEdgesTest {
 
     private static void cantBe() {
         Check.sentence("Promise 16", "NONE if something can't be (unlike KNOTS)");
-        UnbeatenHouse x = Check.of("wish p less;" + knots(3) + "tie ka kb 1;tie kb kc 1;");
+        UnbeatenHouse x = Check.of("wish p less;" + Texts.knots(3) + "tie ka kb 1;tie kb kc 1;");
         for (int what : new int[] {MIN, -2, -1, 3, 4, MAX}) {
             Check.due("front " + what, x.front(what, 0, 1), NONE);
         }
@@ -342,13 +316,13 @@ public final class FrontsEdgesTest {
 
     private static void noWish() {
         Check.sentence("Promise 16", "or there is no WISH");
-        UnbeatenHouse x = Check.of(knots(2) + "rule all;");
+        UnbeatenHouse x = Check.of(Texts.knots(2) + "rule all;");
         for (int what = 0; what < 3; what++) {
             Check.due("front " + what, x.front(what, 0, 1), NONE);
         }
         Check.due("nothing is at hand", x.near(0), NONE);
         // With a WISH that nothing has all three can be.
-        UnbeatenHouse y = Check.of(knots(2) + "rule all;wish p less;");
+        UnbeatenHouse y = Check.of(Texts.knots(2) + "rule all;wish p less;");
         Check.due("rows", y.front(0, 0, 1), 0);
         Check.due("ways", y.front(1, 0, 1), 0);
         Check.due("sets", y.front(2, 0, 1), 1);
@@ -376,7 +350,7 @@ public final class FrontsEdgesTest {
             Check.due("knot stays", x.knot(1, 1), knot);
             Check.due("no more of them", x.loss(due[what], 0), NO_LOSS);
         }
-        UnbeatenHouse y = Check.of(powers(12, "row ra 1 1;"));
+        UnbeatenHouse y = Check.of(Texts.powers(12, "row ra 1 1;"));
         y.front(0, 0, 0);
         Check.due("-2 of sets", y.front(2, 0, 0), -2);
         Check.due("the row stays", y.loss(0, 1), -1);
@@ -386,7 +360,7 @@ public final class FrontsEdgesTest {
 
     private static void lossOfNone() {
         Check.sentence("Promise 17", "-2000000000 if there is none such");
-        UnbeatenHouse x = Check.of(stair(2) + "thing ta 5 5;" + knots(2) + "tie ka kb 5 5;");
+        UnbeatenHouse x = Check.of(Texts.steepStair(2) + "thing ta 5 5;" + Texts.knots(2) + "tie ka kb 5 5;");
         Check.due("no front at hand", x.loss(0, 0), NO_LOSS);
         int[] due = {2, 1, 2};
         for (int what = 0; what < 3; what++) {
@@ -404,15 +378,16 @@ public final class FrontsEdgesTest {
     }
 
     private static void whoOfAll() {
-        Check.sentence("Promise 18", "The ROW, or the SET; of a WAY how many KNOTS it has; NONE if there is none such");
-        UnbeatenHouse x = rowsAtHand(stair(40));
+        Check.sentence("Promise 18", "The ROW, or the SET, of the k-th on THE FRONT at hand; of a WAY how many KNOTS it has; "
+                + "NONE if there is none such");
+        UnbeatenHouse x = rowsAtHand(Texts.steepStair(40));
         for (int k = 0; k < 40; k++) {
             Check.due("row " + k, x.who(k), k);
         }
         for (int k : new int[] {MIN, -1, 40, 41, 100, MAX}) {
             Check.due("who(" + k + ")", x.who(k), NONE);
         }
-        UnbeatenHouse y = Check.of("wish p less;" + knots(2) + "tie ka kb 1;");
+        UnbeatenHouse y = Check.of("wish p less;" + Texts.knots(2) + "tie ka kb 1;");
         Check.due("no front at hand", y.who(0), NONE);
         y.front(1, 0, 1);
         Check.due("two at least", y.who(0), 2);
@@ -423,7 +398,7 @@ public final class FrontsEdgesTest {
 
     private static void knotOfNone() {
         Check.sentence("Promise 19", "NONE if there is none such, or it is no WAY");
-        UnbeatenHouse x = Check.of(stair(2) + "thing ta 5 5;" + knots(10) + "tie ka kj 5 5;");
+        UnbeatenHouse x = Check.of(Texts.steepStair(2) + "thing ta 5 5;" + Texts.knots(10) + "tie ka kj 5 5;");
         Check.due("no front at hand", x.knot(0, 0), NONE);
         for (int what = 0; what <= 2; what += 2) {
             x.front(what, 0, 0);
@@ -459,7 +434,8 @@ public final class FrontsEdgesTest {
     }
 
     private static void weighings() {
-        Check.sentence("Terms III", "WEIGHINGS of a GRID G (1 .. 12): all rows of whole weights, 0 and more, with the sum G");
+        Check.sentence("Terms III", "WEIGHINGS of a GRID G (1 .. 12; 4 at first): all rows of whole weights, 0 and more, "
+                + "one for each WISH, with the sum G");
         String[] wishes = {"wish p less;", "wish q less;", "wish r less;", "wish s less;"};
         StringBuilder t = new StringBuilder();
         for (int n = 1; n <= 4; n++) {
@@ -579,7 +555,7 @@ public final class FrontsEdgesTest {
     private static void nearSixteen() {
         Check.sentence("Promise 23", "or it has more than 16");
         for (int n = 1; n <= 16; n++) {
-            UnbeatenHouse x = rowsAtHand(stair(n));
+            UnbeatenHouse x = rowsAtHand(Texts.steepStair(n));
             Check.due(n + " by 0", x.near(0), n);
             Check.due("the last one", x.kept(n - 1), n - 1);
             Check.due("no more", x.kept(n), NONE);
@@ -587,7 +563,7 @@ public final class FrontsEdgesTest {
             Check.due(n + " by 9999", x.near(9999), 1);
         }
         for (int n : new int[] {17, 18, 24, 40}) {
-            UnbeatenHouse x = rowsAtHand(stair(n));
+            UnbeatenHouse x = rowsAtHand(Texts.steepStair(n));
             Check.due(n + " by 0", x.near(0), NONE);
             Check.due(n + " by 9999", x.near(9999), NONE);
         }
@@ -601,29 +577,30 @@ public final class FrontsEdgesTest {
     }
 
     private static void nearTheFirst() {
-        Check.sentence("Terms III", "The fewest that stand for all of it; of like ones the first in the order of rows of their numbers");
+        Check.sentence("Terms III", "The fewest of a FRONT (16 at most) that stand for all of it; "
+                + "of like ones the first in the order of rows of their numbers");
         // With 10 each of a stair stands for itself and those beside it.
-        UnbeatenHouse x = rowsAtHand(stair(4));
+        UnbeatenHouse x = rowsAtHand(Texts.steepStair(4));
         Check.due("two of 4", x.near(10), 2);
         kept(x, 0, 2);
-        UnbeatenHouse y = rowsAtHand(stair(6));
+        UnbeatenHouse y = rowsAtHand(Texts.steepStair(6));
         Check.due("two of 6", y.near(10), 2);
         kept(y, 1, 4);
-        UnbeatenHouse z = rowsAtHand(stair(7));
+        UnbeatenHouse z = rowsAtHand(Texts.steepStair(7));
         Check.due("three of 7", z.near(10), 3);
         kept(z, 0, 2, 5);
         Check.due("two of 7", z.near(20), 2);
         kept(z, 0, 4);
         Check.due("one of 7", z.near(30), 1);
         kept(z, 3);
-        UnbeatenHouse u = rowsAtHand(stair(16));
+        UnbeatenHouse u = rowsAtHand(Texts.steepStair(16));
         Check.due("six of 16", u.near(10), 6);
         kept(u, 0, 2, 5, 8, 11, 14);
     }
 
     private static void standInsRefused() {
         Check.sentence("Promise 24", "NONE if k can't be (more than there are, too), there is no FRONT at hand");
-        UnbeatenHouse x = Check.of(stair(3));
+        UnbeatenHouse x = Check.of(Texts.steepStair(3));
         Check.due("no front", x.standIns(1), NONE);
         x.front(0, 0, 0);
         int[] due = {10, 10, 0};
@@ -634,21 +611,21 @@ public final class FrontsEdgesTest {
             Check.due("standIns(" + k + ")", x.standIns(k), NONE);
         }
         kept(x, 0, 1, 2);
-        UnbeatenHouse y = rowsAtHand(stair(5));
+        UnbeatenHouse y = rowsAtHand(Texts.steepStair(5));
         Check.due("four of five", y.standIns(4), 10);
         Check.due("five can't be", y.standIns(5), NONE);
         UnbeatenHouse z = rowsAtHand("wish p less;row ra?;");
         for (int k = 0; k <= 4; k++) {
             Check.due("of none", z.standIns(k), NONE);
         }
-        UnbeatenHouse u = rowsAtHand(stair(1));
+        UnbeatenHouse u = rowsAtHand(Texts.steepStair(1));
         Check.due("one of one", u.standIns(1), 0);
         Check.due("two of one", u.standIns(2), NONE);
     }
 
     private static void standInsTwentyFour() {
         Check.sentence("Promise 24", "or it has more than 24");
-        UnbeatenHouse x = rowsAtHand(stair(24));
+        UnbeatenHouse x = rowsAtHand(Texts.steepStair(24));
         int[] due = {120, 60, 40, 30};
         for (int k = 1; k <= 4; k++) {
             Check.due(k + " of 24", x.standIns(k), due[k - 1]);
@@ -656,7 +633,7 @@ public final class FrontsEdgesTest {
         // Three behind and three ahead each: 0 .. 3, 3 .. 9, 10 .. 16, 17 .. 23.
         kept(x, 0, 6, 13, 20);
         for (int n : new int[] {25, 26, 40}) {
-            UnbeatenHouse y = rowsAtHand(stair(n));
+            UnbeatenHouse y = rowsAtHand(Texts.steepStair(n));
             for (int k = 1; k <= 4; k++) {
                 Check.due(k + " of " + n, y.standIns(k), NONE);
             }
@@ -665,7 +642,7 @@ public final class FrontsEdgesTest {
 
     private static void standInsTheFirst() {
         Check.sentence("Terms III", "the least number D for which some k stand for all; those k, the first likewise");
-        UnbeatenHouse x = rowsAtHand(stair(7));
+        UnbeatenHouse x = rowsAtHand(Texts.steepStair(7));
         Check.due("one", x.standIns(1), 30);
         kept(x, 3);
         Check.due("two", x.standIns(2), 20);
@@ -687,7 +664,7 @@ public final class FrontsEdgesTest {
     private static void keptAsItWas() {
         Check.sentence("Promise 25", "the i-th of the latest near() or standIns() that was not NONE (as it was then); "
                 + "NONE if there is none such");
-        UnbeatenHouse x = Check.of(stair(7));
+        UnbeatenHouse x = Check.of(Texts.steepStair(7));
         Check.due("ahead of any", x.kept(0), NONE);
         x.near(0);
         Check.due("behind one that was NONE", x.kept(0), NONE);
@@ -794,7 +771,7 @@ public final class FrontsEdgesTest {
         UnbeatenHouse y = rowsAtHand("wish p less;wish q more;row ra 0 0;row rb 9999 9999;");
         Check.due("9999", y.hole(0), 9999);
         Check.due("9999", y.hole(1), 9999);
-        Check.due("a stair of 40", rowsAtHand(stair(40)).hole(1), 10);
+        Check.due("a stair of 40", rowsAtHand(Texts.steepStair(40)).hole(1), 10);
     }
 
     private static void holeNone() {

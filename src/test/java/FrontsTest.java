@@ -286,24 +286,16 @@ public final class FrontsTest {
         holds("1000*1000*999+999*1000+999<1000*1000*1000", true);
     }
 
-    private static String powers(int things, String rules) {
-        StringBuilder t = new StringBuilder("wish p less;wish q more;");
-        for (int i = 0; i < things; i++) {
-            t.append("thing t").append((char) ('a' + i)).append(' ').append(1 << i).append(' ').append(1 << i).append(';');
-        }
-        return t + rules;
-    }
-
     private static void manySets() {
-        Check.due("64 sets", Check.of(powers(6, "")).front(2, 0, 0), 64);
-        Check.due("100 sets", Check.of(powers(7, "rule of p<100;")).front(2, 0, 0), 100);
-        UnbeatenHouse x = Check.of(powers(7, "rule of p<101;") + "row ra 1 1;");
+        Check.due("64 sets", Check.of(Texts.powers(6, "")).front(2, 0, 0), 64);
+        Check.due("100 sets", Check.of(Texts.powers(7, "rule of p<100;")).front(2, 0, 0), 100);
+        UnbeatenHouse x = Check.of(Texts.powers(7, "rule of p<101;") + "row ra 1 1;");
         x.front(0, 0, 0);
         Check.due("101 sets", x.front(2, 0, 0), -2);
         Check.due("101 sets again", x.front(2, 0, 0), -2);
         Check.due("that at hand stays", x.loss(0, 1), -1);
-        Check.due("4096 sets", Check.of(powers(12, "")).front(2, 0, 0), -2);
-        UnbeatenHouse y = Check.of(powers(12, "rule of p>4090;"));
+        Check.due("4096 sets", Check.of(Texts.powers(12, "")).front(2, 0, 0), -2);
+        UnbeatenHouse y = Check.of(Texts.powers(12, "rule of p>4090;"));
         Check.due("few of 4096", y.front(2, 0, 0), 5);
         Check.due("the last one", y.who(4), 4095);
     }
@@ -411,30 +403,22 @@ public final class FrontsTest {
         Check.due("like ones stand for each other", y.near(0), 1);
     }
 
-    private static String stairs(int rows) {
-        StringBuilder t = new StringBuilder("wish p less;wish q more;");
-        for (int i = 0; i < rows; i++) {
-            t.append("row r").append((char) ('a' + i)).append(' ').append(10 * i).append(' ').append(10 * i).append(';');
-        }
-        return t.toString();
-    }
-
     private static void nearLimits() {
-        UnbeatenHouse x = Check.of(stairs(16));
+        UnbeatenHouse x = Check.of(Texts.steepStair(16));
         x.front(0, 0, 0);
         Check.due("16 with 0", x.near(0), 16);
         Check.due("the last one", x.kept(15), 15);
         Check.due("16 with 10", x.near(10), 6);
         Check.due("16 with 30", x.near(30), 3);
-        UnbeatenHouse y = Check.of(stairs(17));
+        UnbeatenHouse y = Check.of(Texts.steepStair(17));
         y.front(0, 0, 0);
         Check.due("17", y.near(0), NONE);
         Check.due("17 for standIns", y.standIns(1), 80);
         Check.due("the middle", y.kept(0), 8);
-        UnbeatenHouse z = Check.of(stairs(24));
+        UnbeatenHouse z = Check.of(Texts.steepStair(24));
         z.front(0, 0, 0);
         Check.due("24 for standIns", z.standIns(4), 30);
-        UnbeatenHouse u = Check.of(stairs(25));
+        UnbeatenHouse u = Check.of(Texts.steepStair(25));
         u.front(0, 0, 0);
         Check.due("25 for standIns", u.standIns(4), NONE);
     }
@@ -455,7 +439,7 @@ public final class FrontsTest {
         Check.due("five", x.standIns(5), NONE);
         Check.due("-1", x.standIns(-1), NONE);
         Check.due("kept stays", x.kept(3), 3);
-        UnbeatenHouse v = Check.of(stairs(6));
+        UnbeatenHouse v = Check.of(Texts.steepStair(6));
         v.front(0, 0, 0);
         Check.due("five of six", v.standIns(5), NONE);
         Check.due("four of six", v.standIns(4), 10);

@@ -63,16 +63,6 @@ public final class PeopleEdgesTest {
         }
     }
 
-    /** None beats another one; so the first person of p and q orders them by number, or against it. */
-    private static String stair(int rows) {
-        StringBuilder t = new StringBuilder("wish p less;wish q more;");
-        for (int i = 0; i < rows; i++) {
-            t.append("row r").append((char) ('a' + i / 26)).append((char) ('a' + i % 26)).append(' ');
-            t.append(i).append(' ').append(i).append(';');
-        }
-        return t.toString();
-    }
-
     // ---- promise 35
 
     private static void peopleNoughtToFive() {
@@ -203,7 +193,7 @@ public final class PeopleEdgesTest {
 
     private static void barsOnAndOff() {
         Check.sentence("Promise 36", "One of the PEOPLE bars a ROW, or does so no more");
-        UnbeatenHouse x = Check.of(stair(40));
+        UnbeatenHouse x = Check.of(Texts.stair(40));
         x.person(0, 1, 0, 0, 0);
         for (int row : new int[] {0, 31, 32, 39}) {
             x.bar(5, row, true);
@@ -230,7 +220,7 @@ public final class PeopleEdgesTest {
     }
 
     private static void barsWithoutWeights() {
-        Check.sentence("Terms V", "each may have weights, and bars some ROWS");
+        Check.sentence("Terms V", "each may have weights .. , and bars some ROWS");
         UnbeatenHouse x = ordered("abcd");
         x.bar(4, 0, true);
         Check.due("barred by one without weights", x.choose(0), 1);
@@ -259,7 +249,7 @@ public final class PeopleEdgesTest {
     // ---- promise 37
 
     private static void noSuchRule() {
-        Check.sentence("Promise 37", "(0 .. 3): NONE if the RULE can't be");
+        Check.sentence("Promise 37", "The CHOICE by a RULE (0 .. 3): its ROW; NONE if the RULE can't be");
         UnbeatenHouse x = ordered("badc");
         for (int rule = 0; rule < 4; rule++) {
             Check.due("rule " + rule, x.choose(rule), 1);
@@ -341,7 +331,7 @@ public final class PeopleEdgesTest {
     }
 
     private static void likeOnes() {
-        Check.sentence("Terms V", "each orders them by WORTH, of like ones by number; Of like ones the least ROW");
+        Check.sentence("Terms V", "each orders them by WORTH, of like ones by number .. Of like ones the least ROW");
         UnbeatenHouse x = ordered("dcba", "cdab");
         Check.due("rule 0: c and d", x.choose(0), 2);
         Check.due("rule 1: c and d", x.choose(1), 2);
@@ -360,7 +350,7 @@ public final class PeopleEdgesTest {
             Check.due("three like worths", y.place(0, row), places[row]);
         }
         // Forty of them, by number and against it.
-        UnbeatenHouse z = Check.of(stair(40));
+        UnbeatenHouse z = Check.of(Texts.stair(40));
         z.person(0, 1, 0, 0, 0);
         z.person(1, 0, 1, 0, 0);
         Check.due("rule 0: 0 and 39", z.choose(0), 0);
@@ -448,7 +438,7 @@ public final class PeopleEdgesTest {
                 Check.due("breaks nothing", x.breaks(rule), 0);
             }
         }
-        UnbeatenHouse y = Check.of(stair(40));
+        UnbeatenHouse y = Check.of(Texts.stair(40));
         y.person(0, 1, 1, 0, 0);
         y.change(39, 0, 0);
         Check.due("row 39 alone", y.choose(2), 39);
@@ -464,7 +454,7 @@ public final class PeopleEdgesTest {
 
     private static void placesFromNoughtOn() {
         Check.sentence("Terms V", "places from 0 on");
-        UnbeatenHouse x = Check.of(stair(40));
+        UnbeatenHouse x = Check.of(Texts.stair(40));
         x.person(0, 1, 0, 0, 0);
         x.person(5, 0, 9, 0, 0);
         for (int row = 0; row < 40; row++) {

@@ -314,7 +314,7 @@ public final class RandomTest {
     }
 
     private void callFronts(int k) {
-        int which = about(Math.max(1, Math.min(x.who(30) >= 0 ? 100 : 12, 100)));
+        int which = about(Math.max(1, Math.min(y.who(30) >= 0 ? 100 : 12, 100)));
         int w = about(wishes);
         int v = about(wishes);
         boolean on = once(2);

@@ -33,20 +33,11 @@ public final class RowsEdgesTest {
         rowsAsBits();
         surely();
         maybe();
+        unsureFromTo();
         maybeNone();
         sureAndPossible();
         sureAsBits();
         Check.finish("RowsEdgesTest");
-    }
-
-    /** So many rows, each with its number of both wishes: none beats another one. */
-    private static String stair(int rows) {
-        StringBuilder t = new StringBuilder("wish p less;wish q more;");
-        for (int i = 0; i < rows; i++) {
-            t.append("row r").append((char) ('a' + i / 26)).append((char) ('a' + i % 26)).append(' ');
-            t.append(i).append(' ').append(i).append(';');
-        }
-        return t.toString();
     }
 
     // ---- Terms II
@@ -157,7 +148,7 @@ public final class RowsEdgesTest {
                 Check.due("spread " + row + " " + wish, x.price(row, wish, true), spreads[row][wish]);
             }
         }
-        UnbeatenHouse y = Check.of(stair(40));
+        UnbeatenHouse y = Check.of(Texts.stair(40));
         Check.due("the last row", y.price(39, 1, false), 39);
     }
 
@@ -213,7 +204,7 @@ public final class RowsEdgesTest {
 
     private static void leadsFromAll() {
         Check.sentence("Promise 10", "The ROW to which a ROW LEADS");
-        UnbeatenHouse x = Check.of(stair(40));
+        UnbeatenHouse x = Check.of(Texts.stair(40));
         x.change(39, 0, 0);
         for (int row = 0; row < 40; row++) {
             Check.due("to the last row: " + row, x.leads(row), row < 39 ? 39 : NONE);
@@ -293,7 +284,7 @@ public final class RowsEdgesTest {
 
     private static void howManyFellAndCame() {
         Check.sentence("Promise 11", "how many FELL and CAME");
-        UnbeatenHouse x = Check.of(stair(40));
+        UnbeatenHouse x = Check.of(Texts.stair(40));
         Check.due("to what it has", x.change(7, 0, 7), 0);
         Check.due("one that falls", x.change(7, 0, 9), 1);
         Check.due("it stays beaten", x.change(7, 0, 10), 0);
@@ -319,7 +310,7 @@ public final class RowsEdgesTest {
 
     private static void changedLatest() {
         Check.sentence("Promise 12", "Of the latest change() that was not NONE: the ROWS that FELL (came false) or CAME, as bits");
-        UnbeatenHouse x = Check.of(stair(40));
+        UnbeatenHouse x = Check.of(Texts.stair(40));
         for (int row : new int[] {0, 30, 31, 32, 38, 39}) {
             x.change(row, 0, NONE);
             Check.due("fell " + row, x.changed(false), 1L << row);
@@ -352,9 +343,9 @@ public final class RowsEdgesTest {
     private static void rowsAsBits() {
         Check.sentence("Promise 13", "The ROWS of the FRONT of ROWS, as bits");
         for (int n : new int[] {0, 1, 31, 32, 33, 39, 40}) {
-            Check.due(n + " rows", Check.of(stair(n)).rows(), (1L << n) - 1);
+            Check.due(n + " rows", Check.of(Texts.stair(n)).rows(), (1L << n) - 1);
         }
-        UnbeatenHouse x = Check.of(stair(40));
+        UnbeatenHouse x = Check.of(Texts.stair(40));
         for (int row : new int[] {0, 31, 32, 39}) {
             x.change(row, 0, NONE);
             Check.due("without " + row, x.rows(), ALL & ~(1L << row));
@@ -389,16 +380,20 @@ public final class RowsEdgesTest {
         Check.due("8 at least, 9 at most", x.maybe(0, 4), 1);
         Check.due("8 at least, 8, less of the other one", x.maybe(0, 5), 1);
         Check.due("8 at least, but more of the other one", x.maybe(0, 6), 0);
-        // From its number less its spread, though that be below 0, to both, though that be above 9999.
-        UnbeatenHouse y = Check.of("wish p less;wish q less;row ra 0~1 5;row rb 0 5;row rc 9999~1 5;row rd 9999 5;"
+    }
+
+    private static void unsureFromTo() {
+        Check.sentence("Terms VI", "UNSURE: of a WISH a ROW has from its NUMBER less SPREAD to its NUMBER and SPREAD");
+        // Though the one be below 0, and the other above 9999.
+        UnbeatenHouse x = Check.of("wish p less;wish q less;row ra 0~1 5;row rb 0 5;row rc 9999~1 5;row rd 9999 5;"
                 + "row re 0~9999 9999~9999;row rf 0 0;");
-        Check.due("below 0", y.maybe(0, 1), 1);
-        Check.due("not surely", y.maybe(1, 0), 1);
-        Check.due("above 9999", y.maybe(3, 2), 1);
-        Check.due("not below 9999", y.maybe(2, 3), 1);
-        Check.due("from -9999 and 0", y.maybe(4, 5), 1);
-        Check.due("to 9999 and 19998", y.maybe(5, 4), 1);
-        Check.due("surely for all that", y.maybe(5, 2), 2);
+        Check.due("below 0", x.maybe(0, 1), 1);
+        Check.due("not surely", x.maybe(1, 0), 1);
+        Check.due("above 9999", x.maybe(3, 2), 1);
+        Check.due("not below 9999", x.maybe(2, 3), 1);
+        Check.due("from -9999 and 0", x.maybe(4, 5), 1);
+        Check.due("to 9999 and 19998", x.maybe(5, 4), 1);
+        Check.due("surely for all that", x.maybe(5, 2), 2);
     }
 
     private static void maybeNone() {
@@ -450,11 +445,11 @@ public final class RowsEdgesTest {
     private static void sureAsBits() {
         Check.sentence("Promise 14", "The ROWS that are SURE (sure true) or POSSIBLE, as bits");
         for (int n : new int[] {0, 1, 31, 32, 33, 40}) {
-            UnbeatenHouse x = Check.of(stair(n));
+            UnbeatenHouse x = Check.of(Texts.stair(n));
             Check.due(n + " sure", x.unsure(true), (1L << n) - 1);
             Check.due(n + " possible", x.unsure(false), (1L << n) - 1);
         }
-        UnbeatenHouse x = Check.of(stair(40).replace("39 39;", "39~40 39;"));
+        UnbeatenHouse x = Check.of(Texts.stair(40).replace("39 39;", "39~40 39;"));
         Check.due("the last one may beat all others", x.unsure(true), 1L << 39);
         Check.due("all are possible", x.unsure(false), ALL);
         x.change(32, 0, 0);

@@ -94,7 +94,7 @@ public final class RuleEdgesTest {
     }
 
     private static void sumsBounded() {
-        Check.sentence("Terms I", "each sum above 10 to the 9 is that, below -10 to the 9 likewise");
+        Check.sentence("Terms I", "each sum .. above 10 to the 9 is that, below -10 to the 9 likewise");
         value("999*1000*1000+1000*999+999", GREATEST - 1);
         value("999*1000*1000+1000*999+1000", GREATEST);
         value("999*1000*1000+1000*999+1001", GREATEST);
@@ -108,7 +108,7 @@ public final class RuleEdgesTest {
     }
 
     private static void differencesBounded() {
-        Check.sentence("Terms I", "each difference above 10 to the 9 is that, below -10 to the 9 likewise");
+        Check.sentence("Terms I", "difference .. above 10 to the 9 is that, below -10 to the 9 likewise");
         value("0-" + MOST, -GREATEST);
         value("1-" + MOST, 1 - GREATEST);
         value("0-" + MOST + "-1", -GREATEST);
@@ -120,7 +120,7 @@ public final class RuleEdgesTest {
     }
 
     private static void productsBounded() {
-        Check.sentence("Terms I", "each product above 10 to the 9 is that, below -10 to the 9 likewise");
+        Check.sentence("Terms I", "product above 10 to the 9 is that, below -10 to the 9 likewise");
         value(MOST, GREATEST);
         value("1000*1000*999", 999000000);
         value("1000*1000*1001", GREATEST);
@@ -229,21 +229,12 @@ public final class RuleEdgesTest {
     }
 
     private static void allHolds() {
-        Check.sentence("Terms I", "FACT: all");
+        Check.sentence("Terms I", "; all;");
         Check.due("of the SET of none", holds("all"), true);
-        UnbeatenHouse x = Check.of(things(3) + "rule all;");
+        UnbeatenHouse x = Check.of(Texts.powers(3, "rule all;"));
         Check.due("of all sets", x.front(2, 0, 0), 8);
-        UnbeatenHouse y = Check.of(things(3) + "rule not all;");
+        UnbeatenHouse y = Check.of(Texts.powers(3, "rule not all;"));
         Check.due("of no set", y.front(2, 0, 0), 0);
-    }
-
-    /** Each set has another number of both wishes, so that none beats another one. */
-    private static String things(int many) {
-        StringBuilder t = new StringBuilder("wish p less;wish q more;");
-        for (int i = 0; i < many; i++) {
-            t.append("thing t").append((char) ('a' + i)).append(' ').append(1 << i).append(' ').append(1 << i).append(';');
-        }
-        return t.toString();
     }
 
     private static void hasOne() {
@@ -251,10 +242,10 @@ public final class RuleEdgesTest {
         for (int i = 0; i < 12; i++) {
             // Of 4096 sets those few that are but this one thing, or all but this one.
             char c = (char) ('a' + i);
-            UnbeatenHouse x = Check.of(things(12) + "rule has t" + c + " and many=1;");
+            UnbeatenHouse x = Check.of(Texts.powers(12, "rule has t" + c + " and many=1;"));
             Check.due("one has t" + c, x.front(2, 0, 0), 1);
             Check.due("which", x.who(0), 1 << i);
-            UnbeatenHouse y = Check.of(things(12) + "rule not has t" + c + " and many=11;");
+            UnbeatenHouse y = Check.of(Texts.powers(12, "rule not has t" + c + " and many=11;"));
             Check.due("one has not t" + c, y.front(2, 0, 0), 1);
             Check.due("which", y.who(0), 4095 - (1 << i));
         }
@@ -264,11 +255,11 @@ public final class RuleEdgesTest {
         Check.sentence("Terms I", "how many it has");
         int[] due = {1, 12, 66, -2, -2, -2, -2, -2, -2, -2, 66, 12, 1};
         for (int n = 0; n <= 12; n++) {
-            UnbeatenHouse x = Check.of(things(12) + "rule many=" + n + ";");
+            UnbeatenHouse x = Check.of(Texts.powers(12, "rule many=" + n + ";"));
             Check.due("sets of " + n, x.front(2, 0, 0), due[n]);
         }
-        Check.due("more than there are", Check.of(things(12) + "rule many>12;").front(2, 0, 0), 0);
-        Check.due("less than none", Check.of(things(12) + "rule many<0;").front(2, 0, 0), 0);
+        Check.due("more than there are", Check.of(Texts.powers(12, "rule many>12;")).front(2, 0, 0), 0);
+        Check.due("less than none", Check.of(Texts.powers(12, "rule many<0;")).front(2, 0, 0), 0);
     }
 
     private static void ofAWish() {
@@ -291,13 +282,13 @@ public final class RuleEdgesTest {
 
     private static void rulesOfAll() {
         Check.sentence("Terms II", "for which the TESTS of all rules hold");
-        Check.due("no rule", Check.of(things(2)).front(2, 0, 0), 4);
-        Check.due("twelve that hold", Check.of(things(2) + "rule all;".repeat(12)).front(2, 0, 0), 4);
+        Check.due("no rule", Check.of(Texts.powers(2, "")).front(2, 0, 0), 4);
+        Check.due("twelve that hold", Check.of(Texts.powers(2, "rule all;".repeat(12))).front(2, 0, 0), 4);
         for (int i = 0; i < 12; i++) {
             String one = "rule all;".repeat(i) + "rule has tb;" + "rule all;".repeat(11 - i);
-            Check.due("one that not all hold", Check.of(things(2) + one).front(2, 0, 0), 2);
+            Check.due("one that not all hold", Check.of(Texts.powers(2, one)).front(2, 0, 0), 2);
             String none = "rule all;".repeat(i) + "rule not all;" + "rule all;".repeat(11 - i);
-            Check.due("one that none holds", Check.of(things(2) + none).front(2, 0, 0), 0);
+            Check.due("one that none holds", Check.of(Texts.powers(2, none)).front(2, 0, 0), 0);
         }
     }
 

@@ -40,18 +40,10 @@ public final class SayingsEdgesTest {
         Check.finish("SayingsEdgesTest");
     }
 
-    private static String like(int rows) {
-        StringBuilder t = new StringBuilder("wish p less;wish q less;");
-        for (int i = 0; i < rows; i++) {
-            t.append("row r").append((char) ('a' + i / 26)).append((char) ('a' + i % 26)).append(" 5 5;");
-        }
-        return t.toString();
-    }
-
     // ---- promises 28 and 29
 
     private static void ratherRefused() {
-        Check.sentence("Promise 28", "NONE if something can't be, they are the same (both not ASIDE)");
+        Check.sentence("Promise 28", "(both not ASIDE) .. NONE if something can't be, they are the same");
         UnbeatenHouse x = Check.of(FIVE);
         for (int turn = 0; turn < 2; turn++) {
             for (int row = 0; row < 5; row++) {
@@ -79,13 +71,13 @@ public final class SayingsEdgesTest {
         Check.due("a beaten one", x.rather(3, 0), 1);
         Check.due("rather than it", x.rather(0, 3), 2);
         Check.due("the same again", x.rather(0, 3), 3);
-        UnbeatenHouse y = Check.of(like(40));
+        UnbeatenHouse y = Check.of(Texts.like(40));
         Check.due("the last rows", y.rather(39, 38), 1);
         Check.due("the last and the first", y.rather(39, 0), 2);
     }
 
     private static void twelveSayings() {
-        Check.sentence("Terms IV", "SAYINGS (12 at most); NONE if there are 12");
+        Check.sentence("Terms IV", "SAYINGS (12 at most) .. or there are 12");
         UnbeatenHouse x = Check.of(FIVE);
         for (int i = 1; i <= 12; i++) {
             Check.due("rather", x.rather(0, 2), i);
@@ -230,9 +222,9 @@ public final class SayingsEdgesTest {
     private static void couldAsBits() {
         Check.sentence("Promise 31", "COULD, as bits");
         for (int n : new int[] {1, 31, 32, 33, 40}) {
-            Check.due(n + " like ones", Check.of(like(n)).could(), (1L << n) - 1);
+            Check.due(n + " like ones", Check.of(Texts.like(n)).could(), (1L << n) - 1);
         }
-        UnbeatenHouse x = Check.of(like(40));
+        UnbeatenHouse x = Check.of(Texts.like(40));
         for (int row : new int[] {0, 31, 32, 39}) {
             x.change(row, 0, 4);
             Check.due("the better one", x.could(), 1L << row);
@@ -295,7 +287,7 @@ public final class SayingsEdgesTest {
         // ra rather than rb by 2 3, too, so that ra, rc and rd are left; ra or rc: ra, or rc and rd.
         Check.due("A", x.question(0), 0);
         Check.due("B", x.question(1), 2);
-        UnbeatenHouse y = Check.of(like(3));
+        UnbeatenHouse y = Check.of(Texts.like(3));
         Check.due("like ones leave all", y.question(2), 3);
         Check.due("the first A", y.question(0), 0);
         Check.due("the first B", y.question(1), 1);
@@ -306,7 +298,7 @@ public final class SayingsEdgesTest {
 
     private static void questionOfForty() {
         Check.sentence("Terms IV", "A QUESTION: two ROWS A < B of the FRONT of ROWS");
-        UnbeatenHouse x = Check.of(like(40));
+        UnbeatenHouse x = Check.of(Texts.like(40));
         Check.due("40 like ones", x.question(2), 40);
         Check.due("A", x.question(0), 0);
         Check.due("B", x.question(1), 1);
@@ -465,7 +457,7 @@ public final class SayingsEdgesTest {
         Check.due("rb is 32 behind", x.stop(8), 1);
         x.rather(1, 2);
         Check.due("like by what is left: the first", x.stop(0), 1);
-        UnbeatenHouse y = Check.of(like(40));
+        UnbeatenHouse y = Check.of(Texts.like(40));
         Check.due("like ones: the first", y.stop(0), 0);
         y.change(39, 0, 4);
         Check.due("the last one", y.stop(0), 39);

@@ -87,16 +87,7 @@ public final class TextEdgesTest {
     }
 
     private static String wishes(int many) {
-        return many("wish @ more;", many, 'w');
-    }
-
-    /** So many statements, each with a name of its own: two letters, the first one as told or the next. */
-    private static String many(String statement, int many, char first) {
-        StringBuilder t = new StringBuilder();
-        for (int i = 0; i < many; i++) {
-            t.append(statement.replace("@", "" + (char) (first + i / 26) + (char) ('a' + i % 26)));
-        }
-        return t.toString();
+        return Texts.each("wish @ more;", many, 'w');
     }
 
     private static void wishes() {
@@ -160,11 +151,11 @@ public final class TextEdgesTest {
         for (char c = 'l'; c <= 'z'; c++) {
             t.append("row ").append(c).append("?;");
         }
-        return t + many("row @?;", 24, 'a') + "row zz 5;" + many("thing @ 1;", 12, 'b') + "rule all;".repeat(12);
+        return t + Texts.each("row @?;", 24, 'a') + "row zz 5;" + Texts.each("thing @ 1;", 12, 'b') + "rule all;".repeat(12);
     }
 
     private static void fullestText() {
-        Check.sentence("Terms I", "(40 ROWS at most) (10 at most) (24 at most) (12 at most) (12 at most)");
+        Check.sentence("Terms I", "(40 ROWS at most) .. (10 at most) .. (24 at most) .. (12 at most) .. (12 at most)");
         UnbeatenHouse x = Check.of(fullest());
         int[] counts = {1, 40, 10, 24, 12, 12};
         for (int kind = 0; kind < counts.length; kind++) {
@@ -187,8 +178,8 @@ public final class TextEdgesTest {
             Check.faulty(full + "\n  " + more, 5, full.length() + 3);
         }
         // Neither how it goes on nor the kinds that are not full count.
-        Check.faulty(many("knot @;", 10, 'a') + "knot knot knot", 5, 80);
-        Check.sound(many("knot @;", 10, 'a') + "rule all;", 11);
+        Check.faulty(Texts.each("knot @;", 10, 'a') + "knot knot knot", 5, 80);
+        Check.sound(Texts.each("knot @;", 10, 'a') + "rule all;", 11);
         Check.faulty("rule all;".repeat(12) + "rule (((((((((", 5, 108);
     }
 

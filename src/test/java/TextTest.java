@@ -276,12 +276,7 @@ public final class TextTest {
     }
 
     private static String many(String statement, int n) {
-        StringBuilder t = new StringBuilder();
-        for (int i = 0; i < n; i++) {
-            String name = "" + (char) ('a' + i / 26) + (char) ('a' + i % 26) + "z";
-            t.append(statement.replace("@", name));
-        }
-        return t.toString();
+        return Texts.each(statement.replace("@", "@z"), n, 'a');
     }
 
     private static void tooMany() {
