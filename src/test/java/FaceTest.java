@@ -136,7 +136,8 @@ public final class FaceTest {
 
     /** Every call of a library class is one that the rules list. */
     private static void library(String source) {
-        Set<String> allowed = Set.of("Math.min", "Math.max", "Math.floorDiv", "Integer.bitCount", "Long.bitCount", "Long.numberOfTrailingZeros", "System.arraycopy");
+        Set<String> allowed = Set.of("Math.min", "Math.max", "Math.floorDiv", "Integer.bitCount",
+                "Long.bitCount", "Long.numberOfTrailingZeros", "System.arraycopy");
         Matcher m = Pattern.compile("\\b(Math|Integer|Long|System|Arrays|String|Character|List|ArrayList)\\.(\\w+)")
                 .matcher(source);
         while (m.find()) {
@@ -167,7 +168,8 @@ public final class FaceTest {
         int made = 0;
         while (m.find()) {
             made++;
-            Check.due("a field: " + m.group().trim(), m.group().matches("    ( {4})?private (final )?\\S+ \\w+ = new .*;"), true);
+            boolean field = m.group().matches("    ( {4})?private (final )?\\S+ \\w+ = new .*;");
+            Check.due("a field: " + m.group().trim(), field, true);
         }
         Check.due("some are made", made > 10, true);
     }

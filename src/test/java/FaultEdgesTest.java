@@ -245,8 +245,8 @@ public final class FaultEdgesTest {
     }
 
     private static void nearlyOwnWords() {
-        Check.sentence("Terms I", "OWN WORDS, which no NAME is: wish, less, more, row, knot, tie, thing, rule, or, and, not, "
-                + "all, has, many, of, min, max");
+        Check.sentence("Terms I", "OWN WORDS, which no NAME is: wish, less, more, row, knot, tie, thing, rule, or, "
+                + "and, not, all, has, many, of, min, max");
         for (String own : OWN) {
             String cut = own.substring(0, own.length() - 1);
             for (String name : new String[] {cut, own + "s", "x" + own}) {
@@ -365,7 +365,8 @@ public final class FaultEdgesTest {
     // ---- fault 6, and the first of many
 
     private static void outOfTurn() {
-        Check.sentence("Terms I", "6 a wish behind a row, tie or thing, one of these without a WISH ahead, at its first byte");
+        Check.sentence("Terms I", "6 a wish behind a row, tie or thing, one of these without a WISH ahead, "
+                + "at its first byte");
         String ahead = "knot ka;knot kb;";
         for (String judged : new String[] {"row ra 1;", "tie ka kb 1;", "thing ta 1;"}) {
             Check.faulty(ahead + judged, 6, 16);

@@ -18,6 +18,7 @@ public final class FrontsEdgesTest {
         firstWay();
         firstSet();
         hundredWays();
+        lastOfAllWays();
         hundredSets();
         atHandStays();
         notLookedAt();
@@ -80,7 +81,8 @@ public final class FrontsEdgesTest {
     private static void noKnotTwice() {
         Check.sentence("Terms II", "no KNOT twice");
         // More is better, but the ring of b, c and d can't be gone round, nor a or e be passed again.
-        UnbeatenHouse x = Check.of("wish p more;" + Texts.knots(5) + "tie ka kb 0;tie kb kc 9;tie kc kd 9;tie kd kb 9;tie kd ke 0;"
+        UnbeatenHouse x = Check.of("wish p more;" + Texts.knots(5) + "tie ka kb 0;tie kb kc 9;tie kc kd 9;"
+                + "tie kd kb 9;tie kd ke 0;"
                 + "tie kb ka 99;tie ke kb 99;tie ke ka 99;");
         Check.due("one way", x.front(1, 0, 4), 1);
         way(x, 0, 0, 1, 2, 3, 4);
@@ -131,13 +133,15 @@ public final class FrontsEdgesTest {
 
     private static void unlikeRows() {
         Check.sentence("Terms II", "Of WAYS, of SETS: of all unlike rows of LOSSES that no other one beats");
-        UnbeatenHouse x = Check.of("wish p less;wish q more;" + Texts.knots(2) + "tie ka kb 1 1;".repeat(12) + "tie ka kb 2 2;".repeat(12));
+        UnbeatenHouse x = Check.of("wish p less;wish q more;" + Texts.knots(2) + "tie ka kb 1 1;".repeat(12)
+                + "tie ka kb 2 2;".repeat(12));
         Check.due("24 ways, two rows", x.front(1, 0, 1), 2);
         UnbeatenHouse y = Check.of("wish p less;wish q more;thing ta 1 1;thing tb 1 1;thing tc 1 1;");
         Check.due("8 sets, four rows", y.front(2, 0, 0), 4);
         // Of ROWS the like ones are all on it.
         Check.due("like rows", rowsAtHand("wish p less;row ra 1;row rb 1;row rc 1;").who(2), 2);
-        UnbeatenHouse z = Check.of("wish p less;wish q less;" + Texts.knots(2) + "tie ka kb 1 2;tie ka kb 2 1;tie ka kb 2 2;tie ka kb 1 3;");
+        UnbeatenHouse z = Check.of("wish p less;wish q less;" + Texts.knots(2) + "tie ka kb 1 2;tie ka kb 2 1;"
+                + "tie ka kb 2 2;tie ka kb 1 3;");
         Check.due("two beaten ones", z.front(1, 0, 1), 2);
     }
 
@@ -180,11 +184,13 @@ public final class FrontsEdgesTest {
         Check.due("a to j", y.front(1, 0, 9), 1);
         way(y, 0, 0, 2, 9);
         // A longer row is the first one if its first unlike KNOT is less: a b i j ahead of a c j.
-        UnbeatenHouse z = Check.of("wish p less;" + Texts.knots(10) + "tie ka kc 2;tie kc kj 1;tie ki kj 1;tie kb ki 1;tie ka kb 1;");
+        UnbeatenHouse z = Check.of("wish p less;" + Texts.knots(10) + "tie ka kc 2;tie kc kj 1;tie ki kj 1;"
+                + "tie kb ki 1;tie ka kb 1;");
         Check.due("a to j", z.front(1, 0, 9), 1);
         way(z, 0, 0, 1, 8, 9);
         // From j back to a the knots are none the less in the order of numbers.
-        UnbeatenHouse u = Check.of("wish p less;" + Texts.knots(10) + "tie kj ki 1;tie ki ka 1;tie kj kb 1;tie kb ka 1;tie kj ka 2;");
+        UnbeatenHouse u = Check.of("wish p less;" + Texts.knots(10) + "tie kj ki 1;tie ki ka 1;tie kj kb 1;"
+                + "tie kb ka 1;tie kj ka 2;");
         Check.due("j to a", u.front(1, 9, 0), 1);
         way(u, 0, 9, 0);
     }
@@ -244,6 +250,24 @@ public final class FrontsEdgesTest {
         Check.due("100 and a beaten one", Check.of(hops(10, 10, 0) + "tie ka kc 99 98;").front(1, 0, 2), 100);
         Check.due("100 and a like one", Check.of(hops(10, 10, 0) + "tie ka kc 99 99;").front(1, 0, 2), 100);
         Check.due("one beats them all", Check.of(hops(12, 11, 0) + "tie ka kc 0 9999;").front(1, 0, 2), 1);
+    }
+
+    /** 24 ties make 3 to the 8 ways at most: the one that goes by the last ties of all beats the others. */
+    private static void lastOfAllWays() {
+        Check.sentence("Promise 16", "how many are on it");
+        StringBuilder t = new StringBuilder("wish p less;" + Texts.knots(9));
+        for (int i = 0; i < 8; i++) {
+            for (int n = 2; n >= 0; n--) {
+                t.append("tie k").append((char) ('a' + i)).append(" k").append((char) ('b' + i)).append(' ').append(n).append(';');
+            }
+        }
+        UnbeatenHouse x = Check.of(t.toString());
+        Check.due("one of 6561", x.front(1, 0, 8), 1);
+        Check.due("the last one", x.loss(0, 0), 0);
+        way(x, 0, 0, 1, 2, 3, 4, 5, 6, 7, 8);
+        UnbeatenHouse y = Check.of(t.toString().replace(" 0;", " 3;"));
+        Check.due("one of 6561", y.front(1, 0, 8), 1);
+        Check.due("by the second ties", y.loss(0, 0), 8);
     }
 
     private static void hundredSets() {
@@ -378,8 +402,8 @@ public final class FrontsEdgesTest {
     }
 
     private static void whoOfAll() {
-        Check.sentence("Promise 18", "The ROW, or the SET, of the k-th on THE FRONT at hand; of a WAY how many KNOTS it has; "
-                + "NONE if there is none such");
+        Check.sentence("Promise 18", "The ROW, or the SET, of the k-th on THE FRONT at hand; "
+                + "of a WAY how many KNOTS it has; NONE if there is none such");
         UnbeatenHouse x = rowsAtHand(Texts.steepStair(40));
         for (int k = 0; k < 40; k++) {
             Check.due("row " + k, x.who(k), k);
@@ -704,7 +728,8 @@ public final class FrontsEdgesTest {
         int[][] pairs = {{1, 1}, {6, 4}, {4, 6}, {9999, 9999}, {9999, 1}, {1, 9999}, {9998, 9999}, {5000, 2500}, {7, 7}};
         int[][] due = {{1, 1}, {3, 2}, {2, 3}, {1, 1}, {9999, 1}, {1, 9999}, {9998, 9999}, {2, 1}, {1, 1}};
         for (int i = 0; i < pairs.length; i++) {
-            UnbeatenHouse x = rowsAtHand("wish p less;wish q less;row ra 0 " + pairs[i][0] + ";row rb " + pairs[i][1] + " 0;");
+            String rows = "row ra 0 " + pairs[i][0] + ";row rb " + pairs[i][1] + " 0;";
+            UnbeatenHouse x = rowsAtHand("wish p less;wish q less;" + rows);
             cost(x, 1, 0, 1, due[i][0], due[i][1]);
             cost(x, 0, 1, 0, due[i][1], due[i][0]);
             cost(x, 0, 0, 1, NONE, NONE);
@@ -733,8 +758,8 @@ public final class FrontsEdgesTest {
         cost(x, 2, 1, 0, 2, 3);
         cost(x, 3, 1, 0, NONE, NONE);
         // Less of p and no more of q does not count: nor as 0, nor if it is less.
-        UnbeatenHouse y = rowsAtHand("wish p less;wish q less;wish r less;row ra 5 5 5;row rb 4 5 6;row rc 4 4 7;row rd 4 7 5;"
-                + "row re 5 9 4;");
+        UnbeatenHouse y = rowsAtHand("wish p less;wish q less;wish r less;row ra 5 5 5;row rb 4 5 6;"
+                + "row rc 4 4 7;row rd 4 7 5;row re 5 9 4;");
         cost(y, 0, 0, 1, 2, 1);
         cost(y, 0, 0, 2, 1, 1);
         cost(y, 0, 2, 1, 4, 1);
@@ -765,7 +790,8 @@ public final class FrontsEdgesTest {
 
     private static void holes() {
         Check.sentence("Terms III", "HOLE of a WISH: the greatest difference of two LOSSES of the FRONT with none between");
-        UnbeatenHouse x = rowsAtHand("wish p less;wish q more;row ra 0 9;row rb 4 9999;row rc 4 9999;row rd 1 100;row re 0 9;");
+        UnbeatenHouse x = rowsAtHand("wish p less;wish q more;row ra 0 9;row rb 4 9999;row rc 4 9999;"
+                + "row rd 1 100;row re 0 9;");
         Check.due("of p: 0 1 4", x.hole(0), 3);
         Check.due("of q: 9 100 9999", x.hole(1), 9899);
         UnbeatenHouse y = rowsAtHand("wish p less;wish q more;row ra 0 0;row rb 9999 9999;");

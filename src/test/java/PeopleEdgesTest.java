@@ -52,7 +52,8 @@ public final class PeopleEdgesTest {
             for (int place = 0; place < 4; place++) {
                 weights[orders[person].charAt(place) - 'a'] = 4 - place;
             }
-            Check.due("weights of " + orders[person], x.person(person, weights[0], weights[1], weights[2], weights[3]), true);
+            boolean given = x.person(person, weights[0], weights[1], weights[2], weights[3]);
+            Check.due("weights of " + orders[person], given, true);
         }
         return x;
     }
@@ -102,8 +103,8 @@ public final class PeopleEdgesTest {
             Check.due("like ones", x.choose(0), 0);
         }
         // The greatest worths there are.
-        UnbeatenHouse y = Check.of("wish p less;wish q less;wish r more;wish s more;row ra 9999 9998 0 0;row rb 9998 9999 0 0;"
-                + "row rc 9999 9999 1 0;row rd 9999 9999 0 1;");
+        UnbeatenHouse y = Check.of("wish p less;wish q less;wish r more;wish s more;row ra 9999 9998 0 0;"
+                + "row rb 9998 9999 0 0;row rc 9999 9999 1 0;row rd 9999 9999 0 1;");
         y.person(0, 9, 8, 0, 0);
         Check.due("by 9 times 9999", y.choose(0), 1);
         y.person(0, 8, 9, 0, 0);

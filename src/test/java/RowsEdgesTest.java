@@ -43,7 +43,8 @@ public final class RowsEdgesTest {
     // ---- Terms II
 
     private static void losses() {
-        Check.sentence("Terms II", "What is judged has a LOSS for each WISH: what it has of it (less), or 0 less that (more)");
+        Check.sentence("Terms II", "What is judged has a LOSS for each WISH: what it has of it (less), "
+                + "or 0 less that (more)");
         int[] numbers = {0, 1, 9998, 9999};
         for (int n : numbers) {
             UnbeatenHouse x = Check.of("wish p less;wish q more;row ra " + n + " " + n + ";");
@@ -309,7 +310,8 @@ public final class RowsEdgesTest {
     }
 
     private static void changedLatest() {
-        Check.sentence("Promise 12", "Of the latest change() that was not NONE: the ROWS that FELL (came false) or CAME, as bits");
+        Check.sentence("Promise 12", "Of the latest change() that was not NONE: the ROWS that FELL (came false) "
+                + "or CAME, as bits");
         UnbeatenHouse x = Check.of(Texts.stair(40));
         for (int row : new int[] {0, 30, 31, 32, 38, 39}) {
             x.change(row, 0, NONE);

@@ -200,7 +200,8 @@ public final class SayingsEdgesTest {
     }
 
     private static void couldBe() {
-        Check.sentence("Terms IV", "COULD: the ROWS of the FRONT of ROWS that are first among these by some WEIGHING that AGREES");
+        Check.sentence("Terms IV", "COULD: the ROWS of the FRONT of ROWS that are first among these "
+                + "by some WEIGHING that AGREES");
         UnbeatenHouse x = Check.of(FIVE);
         Check.due("three", x.could(), 7);
         x.rather(0, 1);
@@ -447,7 +448,8 @@ public final class SayingsEdgesTest {
     }
 
     private static void stopFirst() {
-        Check.sentence("Terms IV", "STOP by a number D: the first ROW of the FRONT of ROWS that has, by each WEIGHING that AGREES");
+        Check.sentence("Terms IV", "STOP by a number D: the first ROW of the FRONT of ROWS that has, "
+                + "by each WEIGHING that AGREES");
         UnbeatenHouse x = Check.of("wish p less;wish q less;row ra 9 9;row rb 0 8;row rc 8 0;row rd 0 8;");
         // By 0 4 .. 4 0: rb and rd 32 24 16 8 0, rc 0 8 16 24 32.
         Check.due("beaten ones don't count", x.stop(9999), 1);
