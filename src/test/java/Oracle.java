@@ -775,10 +775,15 @@ final class Oracle {
         return true;
     }
 
-    /** All rows of numbers 0 .. GRID in their order, of which those with another sum are left out. */
+    private static final Map<Integer, List<int[]>> WEIGHINGS = new HashMap<>();
+
     private List<int[]> weighings() {
+        return new ArrayList<>(WEIGHINGS.computeIfAbsent(w.wishes.size() * 100 + grid, k -> weighings(k / 100, k % 100)));
+    }
+
+    /** All rows of numbers 0 .. GRID in their order, of which those with another sum are left out. */
+    private static List<int[]> weighings(int n, int grid) {
         List<int[]> l = new ArrayList<>();
-        int n = w.wishes.size();
         long most = n == 0 ? 0 : Math.round(Math.pow(grid + 1, n));
         for (long code = 0; code < most; code++) {
             int[] row = new int[n];
