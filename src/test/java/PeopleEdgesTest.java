@@ -33,6 +33,7 @@ public final class PeopleEdgesTest {
         breaksFour();
         breaksNone();
         oneAlone();
+        lastOfForty();
         placesFromNoughtOn();
         placeOfNone();
         Check.finish("PeopleEdgesTest");
@@ -449,6 +450,25 @@ public final class PeopleEdgesTest {
         barTo(z, 2);
         Check.due("rule 2", z.choose(2), 0);
         Check.due("another one", z.breaks(2), 1 + 2);
+    }
+
+    private static void lastOfForty() {
+        Check.sentence("Terms V", "who is ahead of each other one with more than half of the PEOPLE");
+        UnbeatenHouse x = Check.of(Texts.stair(40));
+        for (int row = 0; row < 38; row++) {
+            x.bar(row % 6, row, true);
+        }
+        x.person(0, 0, 1, 0, 0);
+        choosesRightly(x, 39);
+        x.person(0, 1, 0, 0, 0);
+        choosesRightly(x, 38);
+    }
+
+    private static void choosesRightly(UnbeatenHouse x, int row) {
+        for (int rule = 0; rule < 4; rule++) {
+            Check.due("by rule " + rule, x.choose(rule), row);
+            Check.due("rule " + rule + " breaks nothing", x.breaks(rule), 0);
+        }
     }
 
     // ---- promise 39

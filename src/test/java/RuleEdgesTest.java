@@ -26,6 +26,7 @@ public final class RuleEdgesTest {
         ofAWish();
         rulesOfAll();
         deepest();
+        numbersAreNoWords();
         Check.finish("RuleEdgesTest");
     }
 
@@ -303,5 +304,19 @@ public final class RuleEdgesTest {
                 + ")".repeat(4) + "=1+3*4" + "]".repeat(4)), true);
         Check.due("and does not hold", holds("1=2 or all and not not[".repeat(4) + "max(1+1*2,1+1*".repeat(4) + "9"
                 + ")".repeat(4) + "=2+3*4" + "]".repeat(4)), false);
+    }
+
+    /** Whatever a program takes words for: no number is one of them. */
+    private static void numbersAreNoWords() {
+        Check.sentence("Terms I", "PART: NUMBER; many; of NAME");
+        UnbeatenHouse x = new UnbeatenHouse();
+        for (int n = 0; n <= 9999; n++) {
+            if (n % 50 == 0) {
+                x = new UnbeatenHouse();
+            }
+            Check.due("a number " + n, Check.text(x, "rule " + n + "=" + n + ";"), 1);
+            Check.due("nothing that joins " + n, Check.text(x, "rule all " + n + " all;"), UnbeatenHouse.NONE);
+            Check.due("its place " + n, x.fault(1), 9);
+        }
     }
 }
